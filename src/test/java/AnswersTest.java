@@ -1,0 +1,106 @@
+/** Promises 15 to 17 (given, output, state). */
+public final class AnswersTest {
+    private static final int L = Check.LOWEST;
+    private static final int H = Check.HIGHEST;
+
+    public static void main(String[] args) {
+        whatGivenAnswers();
+        latestEightOutputs();
+        outputsOfNothing();
+        whatStateAnswers();
+        givenInAll();
+        Check.finish();
+    }
+
+    private static EventDesk echo(int slot) {
+        EventDesk x = new EventDesk();
+        Check.always(x);
+        x.window(slot, 1, 1, 1, false);
+        return x;
+    }
+
+    private static void whatGivenAnswers() {
+        EventDesk x = echo(5);
+        Check.due("given at first", x.given(5, 0), 0);
+        Check.due("counted at first", x.given(5, 1), 0);
+        x.giving(5, 0, 2, 4);
+        x.send(0, 0, 1);
+        x.send(0, 0, 0);
+        x.send(0, 0, 1);
+        x.send(0, 0, 1);
+        Check.due("given", x.given(5, 0), 1);
+        Check.due("counted", x.given(5, 1), 3);
+        for (int what : new int[] {-1, 2, 3, L, H}) {
+            Check.due("given(5, " + what + ")", x.given(5, what), -1);
+        }
+        for (int slot : new int[] {-1, 0, 1, 2, 3, 4, 6, L, H}) {
+            Check.due("given(" + slot + ", 0)", x.given(slot, 0), -1);
+            Check.due("given(" + slot + ", 1)", x.given(slot, 1), -1);
+            Check.due("given(" + slot + ", 2)", x.given(slot, 2), -1);
+        }
+    }
+
+    private static void latestEightOutputs() {
+        EventDesk x = echo(0);
+        for (int i = 1; i <= 30; i++) {
+            x.send(0, 0, i * 100);
+            for (int k = -2; k <= 10; k++) {
+                boolean isThere = k >= 0 && k <= 7 && k < i;
+                Check.due("output(0, " + k + ") of " + i, x.output(0, k), isThere ? (i - k) * 100 : 0);
+            }
+        }
+        EventDesk y = echo(0);
+        y.giving(0, 0, 3, 4);
+        for (int i = 1; i <= 30; i++) {
+            y.send(0, 0, i);
+        }
+        for (int k = 0; k <= 7; k++) {
+            Check.due("of each third: output(0, " + k + ")", y.output(0, k), 30 - 3 * k);
+        }
+    }
+
+    private static void outputsOfNothing() {
+        EventDesk x = echo(2);
+        Check.due("none yet", x.output(2, 0), 0);
+        x.send(0, 0, 5);
+        for (int slot : new int[] {-1, 0, 1, 3, 4, 5, 6, L, H}) {
+            Check.due("output(" + slot + ", 0)", x.output(slot, 0), 0);
+        }
+        for (int k : new int[] {-1, 1, 7, 8, 9, L, H}) {
+            Check.due("output(2, " + k + ")", x.output(2, k), 0);
+        }
+        Check.due("output(2, 0)", x.output(2, 0), 5);
+        x.remove(2);
+        Check.due("of a question that is gone", x.output(2, 0), 0);
+    }
+
+    private static void whatStateAnswers() {
+        EventDesk x = echo(1);
+        x.advance(20);
+        x.send(0, 0, 5);
+        x.send(0, 0, 5);
+        x.giving(1, 0, 2, 4);
+        x.send(0, 0, 5);
+        Check.state(x, "three events", 3, 0, 20, 2);
+        for (int what : new int[] {-1, 4, 5, L, H}) {
+            Check.due("state(" + what + ")", x.state(what), -1);
+        }
+    }
+
+    private static void givenInAll() {
+        EventDesk x = echo(1);
+        x.send(0, 0, 5);
+        Check.always(x);
+        x.window(2, 0, 0, 0, false);
+        x.send(0, 0, 5);
+        Check.due("three", x.state(3), 3);
+        x.remove(1);
+        Check.due("of one that was removed, too", x.state(3), 3);
+        Check.always(x);
+        x.window(2, 0, 0, 0, false);
+        Check.due("of one that was replaced, too", x.state(3), 3);
+        x.send(0, 0, 5);
+        Check.due("four", x.state(3), 4);
+        Check.due("of the new one", x.given(2, 0), 1);
+    }
+}

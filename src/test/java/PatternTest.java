@@ -1,0 +1,257 @@
+/** Promise 6 (pattern) and what a pattern's outputs are. */
+public final class PatternTest {
+    private static final int L = Check.LOWEST;
+    private static final int H = Check.HIGHEST;
+    private static final long NONE = Check.NONE;
+
+    public static void main(String[] args) {
+        whichPatternsAreSet();
+        setPatternStartsAnew();
+        twoConditions();
+        threeConditions();
+        oneEventIsNoRow();
+        sameTimeIsLaterToo();
+        lessThanNAfterTheFirst();
+        breaksOfTwo();
+        breaksOfThree();
+        equalA();
+        once();
+        onceOfThree();
+        onceThoughNotCounted();
+        seesFromWhenItIsSet();
+        routedEventsMatch();
+        manyMatches();
+        Check.finish();
+    }
+
+    private static EventDesk pattern(int n, int stop, boolean equal, boolean once, int... types) {
+        EventDesk x = new EventDesk();
+        Check.typesAre(x, types);
+        Check.due("pattern", x.pattern(4, n, stop, equal, once), true);
+        return x;
+    }
+
+    private static void isSet(boolean want, int slot, int n, int stop, int count) {
+        EventDesk x = new EventDesk();
+        for (int i = 0; i < count; i++) {
+            Check.always(x);
+        }
+        String what = "pattern(" + slot + ", " + n + ", " + stop + ") of " + count;
+        Check.due(what, x.pattern(slot, n, stop, true, true), want);
+        Check.due(what + ": drop", x.drop(), want ? 0 : count);
+        Check.due(what + ": given", x.given(slot, 0), want ? 0 : -1);
+    }
+
+    private static void whichPatternsAreSet() {
+        for (int i = 0; i <= 5; i++) {
+            isSet(true, i, 1, 0, 2);
+            isSet(i <= 4, 0, 1, i, 3);
+        }
+        for (int wrong : new int[] {-1, 6, L, H}) {
+            isSet(false, wrong, 1, 0, 2);
+            isSet(false, 0, 1, wrong, 2);
+        }
+        isSet(true, 0, 1000, 4, 2);
+        isSet(false, 0, 1001, 4, 2);
+        isSet(false, 0, 0, 4, 2);
+        isSet(false, 0, -1, 4, 2);
+        isSet(false, 0, L, 4, 2);
+        isSet(false, 0, H, 4, 2);
+        isSet(false, 0, 1, 4, 0);
+        isSet(false, 0, 1, 4, 1);
+        isSet(true, 0, 1, 4, 3);
+    }
+
+    private static void setPatternStartsAnew() {
+        EventDesk x = pattern(10, 4, false, false, 4, 4);
+        x.giving(4, 1, 3, 2);
+        x.send(0, 0, 0);
+        x.send(0, 0, 0);
+        x.send(0, 0, 0);
+        Check.typesAre(x, 4, 4);
+        Check.due("wrong pattern", x.pattern(4, 10, 5, false, false), false);
+        Check.due("counted stays", x.given(4, 1), 1);
+        Check.due("pattern over a pattern", x.pattern(4, 10, 4, false, false), true);
+        Check.due("given", x.given(4, 0), 0);
+        Check.due("counted", x.given(4, 1), 0);
+        Check.outputs(x, 4, "anew", new int[][] {{0, 0, 0, 0}, {0, 0, 0, 0}}, NONE, 1);
+        Check.due("no route", x.state(0), 5);
+    }
+
+    private static void twoConditions() {
+        EventDesk x = pattern(10, 4, false, false, 0, 1);
+        Check.outputs(x, 4, "0 then 1",
+                new int[][] {{0, 1, 0, 0}, {1, 0, 5, 0}, {1, 2, 0, 0}, {1, 1, 6, 0}, {1, 0, 0, 0}, {1, 1, 0, 0},
+                    {0, 3, 0, 0}, {1, 1, 0, 0}},
+                NONE, NONE, NONE, 1, NONE, 2, NONE, 2);
+    }
+
+    private static void threeConditions() {
+        EventDesk x = pattern(100, 4, false, false, 0, 1, 2);
+        Check.outputs(x, 4, "0, 1, 2",
+                new int[][] {{0, 0, 0, 0}, {1, 2, 0, 0}, {1, 1, 0, 0}, {1, 2, 0, 0}, {1, 0, 0, 0}, {1, 2, 0, 0},
+                    {1, 1, 0, 0}, {1, 2, 0, 0}, {1, 1, 0, 0}, {1, 2, 0, 0}},
+                NONE, NONE, NONE, 1, NONE, 1, NONE, 3, NONE, 5);
+        // Two conditions more are not looked at for the end.
+        x = pattern(100, 4, false, false, 0, 1, 0);
+        Check.outputs(x, 4, "0, 1, 0",
+                new int[][] {{0, 0, 0, 0}, {1, 0, 0, 0}, {1, 1, 0, 0}, {1, 1, 0, 0}, {1, 0, 0, 0}},
+                NONE, NONE, NONE, NONE, 4);
+    }
+
+    private static void oneEventIsNoRow() {
+        EventDesk x = pattern(10, 4, false, false, 4, 4);
+        Check.outputs(x, 4, "any two",
+                new int[][] {{0, 0, 0, 0}, {1, 0, 0, 0}, {1, 0, 0, 0}}, NONE, 1, 2);
+        x = pattern(10, 4, false, false, 4, 4, 4);
+        Check.outputs(x, 4, "any three",
+                new int[][] {{0, 0, 0, 0}, {1, 0, 0, 0}, {1, 0, 0, 0}, {1, 0, 0, 0}, {1, 0, 0, 0}},
+                NONE, NONE, 1, 3, 6);
+    }
+
+    private static void sameTimeIsLaterToo() {
+        EventDesk x = pattern(1, 4, false, false, 0, 1);
+        Check.outputs(x, 4, "at the same time",
+                new int[][] {{5, 0, 0, 0}, {0, 1, 0, 0}, {1, 1, 0, 0}}, NONE, 1, NONE);
+    }
+
+    private static void lessThanNAfterTheFirst() {
+        EventDesk x = pattern(3, 4, false, false, 0, 1);
+        Check.outputs(x, 4, "less than 3 after",
+                new int[][] {{5, 0, 0, 0}, {2, 1, 0, 0}, {0, 0, 0, 0}, {1, 1, 0, 0}, {1, 1, 0, 0}, {1, 1, 0, 0}},
+                NONE, 1, NONE, 1, 1, NONE);
+        x = pattern(3, 4, false, false, 0, 1, 2);
+        Check.outputs(x, 4, "the third less than 3 after the first",
+                new int[][] {{0, 0, 0, 0}, {1, 0, 0, 0}, {1, 1, 0, 0}, {1, 2, 0, 0}, {1, 2, 0, 0}},
+                NONE, NONE, NONE, 1, NONE);
+        x = pattern(1000, 4, false, false, 0, 1);
+        x.send(0, 0, 0);
+        for (int i = 0; i < 9; i++) {
+            x.advance(100);
+        }
+        Check.outputs(x, 4, "less than 1000 after", new int[][] {{99, 1, 0, 0}, {1, 1, 0, 0}}, 1, NONE);
+    }
+
+    private static void breaksOfTwo() {
+        EventDesk x = pattern(100, 2, false, false, 0, 1);
+        Check.outputs(x, 4, "break 2",
+                new int[][] {{0, 0, 0, 0}, {0, 1, 0, 0}, {0, 3, 0, 0}, {0, 2, 0, 0}, {0, 1, 0, 0}, {0, 0, 0, 0},
+                    {0, 1, 0, 0}},
+                NONE, 1, NONE, NONE, NONE, NONE, 1);
+        // The events of a row may be of the break type themselves.
+        x = pattern(100, 0, false, false, 0, 1);
+        Check.outputs(x, 4, "break 0, the first's",
+                new int[][] {{0, 0, 0, 0}, {0, 0, 0, 0}, {0, 1, 0, 0}}, NONE, NONE, 1);
+        x = pattern(100, 1, false, false, 0, 1);
+        Check.outputs(x, 4, "break 1, the last's",
+                new int[][] {{0, 0, 0, 0}, {0, 0, 0, 0}, {0, 1, 0, 0}, {0, 1, 0, 0}}, NONE, NONE, 2, NONE);
+        // Whether the event of the break type has the same a does not matter.
+        x = pattern(100, 2, true, false, 0, 1);
+        Check.outputs(x, 4, "break 2 with another a",
+                new int[][] {{0, 0, 1, 0}, {0, 2, 7, 0}, {0, 1, 1, 0}}, NONE, NONE, NONE);
+    }
+
+    private static void breaksOfThree() {
+        int[][] between = {{0, 0, 0, 0}, {0, 3, 0, 0}, {0, 1, 0, 0}, {0, 2, 0, 0}};
+        Check.outputs(pattern(100, 3, false, false, 0, 1, 2), 4, "break after the first", between,
+                NONE, NONE, NONE, NONE);
+        between = new int[][] {{0, 0, 0, 0}, {0, 1, 0, 0}, {0, 3, 0, 0}, {0, 2, 0, 0}};
+        Check.outputs(pattern(100, 3, false, false, 0, 1, 2), 4, "break after the second", between,
+                NONE, NONE, NONE, NONE);
+        between = new int[][] {{0, 3, 0, 0}, {0, 0, 0, 0}, {0, 1, 0, 0}, {0, 2, 0, 0}, {0, 3, 0, 0}, {0, 2, 0, 0}};
+        Check.outputs(pattern(100, 3, false, false, 0, 1, 2), 4, "break before and after", between,
+                NONE, NONE, NONE, 1, NONE, NONE);
+        // The second is of the break type: it stands between no two neighbours of its own row.
+        between = new int[][] {{0, 0, 0, 0}, {0, 1, 0, 0}, {0, 2, 0, 0}, {0, 1, 0, 0}, {0, 2, 0, 0}};
+        Check.outputs(pattern(100, 1, false, false, 0, 1, 2), 4, "break 1, the second's", between,
+                NONE, NONE, 1, NONE, NONE);
+        // A middle of any type: of those before the break none, the break itself, of those after it none.
+        between = new int[][] {{0, 0, 0, 0}, {0, 1, 0, 0}, {0, 3, 0, 0}, {0, 1, 0, 0}, {0, 2, 0, 0}};
+        Check.outputs(pattern(100, 3, false, false, 0, 4, 2), 4, "any middle, break 3", between,
+                NONE, NONE, NONE, NONE, 1);
+    }
+
+    private static void equalA() {
+        EventDesk x = pattern(100, 4, true, false, 0, 1);
+        Check.outputs(x, 4, "equal",
+                new int[][] {{0, 0, 1, 0}, {0, 0, L, 0}, {0, 1, 1, 0}, {0, 1, L, 0}, {0, 1, 3, 0}},
+                NONE, NONE, 1, 1, NONE);
+        x = pattern(100, 4, true, false, 0, 1, 2);
+        Check.outputs(x, 4, "equal, three",
+                new int[][] {{0, 0, 1, 0}, {0, 1, 2, 0}, {0, 2, 1, 0}, {0, 1, 1, 0}, {0, 2, 2, 0}, {0, 2, 1, 0}},
+                NONE, NONE, NONE, NONE, NONE, 1);
+    }
+
+    private static void once() {
+        EventDesk x = pattern(100, 4, false, true, 0, 1);
+        Check.outputs(x, 4, "once",
+                new int[][] {{0, 0, 0, 0}, {0, 0, 0, 0}, {0, 1, 0, 0}, {0, 1, 0, 0}, {0, 0, 0, 0}, {0, 1, 0, 0},
+                    {0, 1, 0, 0}},
+                NONE, NONE, 2, NONE, NONE, 1, NONE);
+        // With conditions that all meet, each event may still begin one match.
+        x = pattern(100, 4, false, true, 4, 4);
+        Check.outputs(x, 4, "once, any two",
+                new int[][] {{0, 0, 0, 0}, {0, 0, 0, 0}, {0, 0, 0, 0}}, NONE, 1, 1);
+        x = pattern(100, 4, true, true, 0, 1);
+        Check.outputs(x, 4, "once, equal",
+                new int[][] {{0, 0, 1, 0}, {0, 0, 2, 0}, {0, 1, 1, 0}, {0, 1, 2, 0}, {0, 1, 1, 0}},
+                NONE, NONE, 1, 1, NONE);
+        // Two patterns do not disturb one another.
+        x = pattern(100, 4, false, true, 0, 1);
+        Check.typesAre(x, 0, 2);
+        x.pattern(5, 100, 4, false, true);
+        Check.sends(x, "two patterns", new int[][] {{0, 0, 0}, {1, 0, 0}, {2, 0, 0}, {1, 0, 0}, {2, 0, 0}}, 0, 1, 1, 0, 0);
+    }
+
+    private static void onceOfThree() {
+        EventDesk x = pattern(100, 4, false, true, 0, 1, 2);
+        Check.outputs(x, 4, "once, three",
+                new int[][] {{0, 0, 0, 0}, {0, 1, 0, 0}, {0, 1, 0, 0}, {0, 2, 0, 0}, {0, 0, 0, 0}, {0, 2, 0, 0},
+                    {0, 1, 0, 0}, {0, 2, 0, 0}},
+                NONE, NONE, NONE, 2, NONE, NONE, NONE, 1);
+    }
+
+    private static void onceThoughNotCounted() {
+        EventDesk x = pattern(100, 4, false, true, 0, 1);
+        x.giving(4, 1, 1, 4);
+        Check.outputs(x, 4, "once, more than 1",
+                new int[][] {{0, 0, 0, 0}, {0, 1, 0, 0}, {0, 0, 0, 0}, {0, 1, 0, 0}}, NONE, NONE, NONE, NONE);
+    }
+
+    private static void seesFromWhenItIsSet() {
+        EventDesk x = pattern(100, 4, false, true, 0, 1);
+        x.send(0, 0, 0);
+        x.send(1, 0, 0);
+        Check.typesAre(x, 0, 1);
+        x.pattern(4, 100, 4, false, true);
+        Check.outputs(x, 4, "set later",
+                new int[][] {{0, 1, 0, 0}, {0, 0, 0, 0}, {0, 1, 0, 0}}, NONE, NONE, 1);
+        Check.typesAre(x, 0, 1, 2);
+        x.pattern(4, 100, 4, false, false);
+        Check.outputs(x, 4, "set later, three",
+                new int[][] {{0, 2, 0, 0}, {0, 1, 0, 0}, {0, 2, 0, 0}, {0, 0, 0, 0}, {0, 1, 0, 0}, {0, 2, 0, 0}},
+                NONE, NONE, NONE, NONE, NONE, 1);
+    }
+
+    private static void routedEventsMatch() {
+        EventDesk x = new EventDesk();
+        Check.typeIs(x, 0);
+        x.window(1, 0, 0, 1, false);
+        x.giving(1, 0, 1, 1);
+        Check.typesAre(x, 0, 1);
+        x.pattern(2, 1, 4, true, false);
+        Check.due("a of the routed event is the slot", x.send(0, 1, 9), 2);
+        Check.due("no match with another a", x.send(0, 2, 9), 2);
+        Check.due("given", x.given(2, 0), 2);
+        Check.due("output", x.output(2, 0), 1);
+    }
+
+    private static void manyMatches() {
+        EventDesk x = pattern(1000, 4, true, false, 4, 4, 4);
+        for (int i = 0; i < 64; i++) {
+            x.send(0, 0, 0);
+        }
+        Check.due("of 64 events", x.output(4, 0), 63 * 62 / 2);
+        Check.due("given", x.given(4, 0), 62);
+    }
+}
