@@ -73,6 +73,7 @@ public final class EventDesk {
     private static final int CONDITION_COUNT = OUTPUTS + MOST_OUTPUTS;
     private static final int CONDITIONS = CONDITION_COUNT + 1;
     private static final int QUESTION_SIZE = CONDITIONS + LIST_SIZE;
+    private static final int QUESTIONS_SIZE = SLOTS * QUESTION_SIZE;
 
     // The figures stand in the order in which state() numbers them.
     private static final int HAPPENED = 0;
@@ -86,7 +87,7 @@ public final class EventDesk {
     private int listed = 0;
 
     private final int[] figures = new int[FIGURES];
-    private final int[] questions = new int[SLOTS * QUESTION_SIZE];
+    private final int[] questions = new int[QUESTIONS_SIZE];
     private final int[] eventType = new int[MOST_EVENTS];
     private final int[] eventA = new int[MOST_EVENTS];
     private final int[] eventB = new int[MOST_EVENTS];
@@ -100,7 +101,7 @@ public final class EventDesk {
 
     private boolean isKept = false;
     private final int[] keptFigures = new int[FIGURES];
-    private final int[] keptQuestions = new int[SLOTS * QUESTION_SIZE];
+    private final int[] keptQuestions = new int[QUESTIONS_SIZE];
     private final int[] keptType = new int[MOST_EVENTS];
     private final int[] keptA = new int[MOST_EVENTS];
     private final int[] keptB = new int[MOST_EVENTS];
@@ -649,7 +650,7 @@ public final class EventDesk {
 
     public void keep() {
         copy(figures, 0, keptFigures, 0, FIGURES);
-        copy(questions, 0, keptQuestions, 0, SLOTS * QUESTION_SIZE);
+        copy(questions, 0, keptQuestions, 0, QUESTIONS_SIZE);
         copy(eventType, 0, keptType, 0, MOST_EVENTS);
         copy(eventA, 0, keptA, 0, MOST_EVENTS);
         copy(eventB, 0, keptB, 0, MOST_EVENTS);
@@ -664,7 +665,7 @@ public final class EventDesk {
             return false;
         }
         copy(keptFigures, 0, figures, 0, FIGURES);
-        copy(keptQuestions, 0, questions, 0, SLOTS * QUESTION_SIZE);
+        copy(keptQuestions, 0, questions, 0, QUESTIONS_SIZE);
         copy(keptType, 0, eventType, 0, MOST_EVENTS);
         copy(keptA, 0, eventA, 0, MOST_EVENTS);
         copy(keptB, 0, eventB, 0, MOST_EVENTS);

@@ -12,6 +12,7 @@ public final class KeepTest {
         questionsComeBack();
         whatQuestionsSawComesBack();
         onceComesBack();
+        breaksComeBack();
         lostComesBack();
         emptyStateCanBeKept();
         clearForgets();
@@ -193,13 +194,34 @@ public final class KeepTest {
         x.keep();
         x.clear();
         x.send(0, 0, 0);
-        x.send(2, 0, 0);
         x.restore();
         Check.due("it has ended", x.send(1, 0, 0), 0);
         x.restore();
-        // The break type of the events comes back as well: what stood at their place is gone.
         Check.sends(x, "a new first", new int[][] {{0, 0, 0}, {1, 0, 0}}, 0, 1);
         Check.due("of one", x.output(0, 0), 1);
+    }
+
+    private static void breaksComeBack() {
+        EventDesk x = new EventDesk();
+        Check.typesAre(x, 0, 1);
+        x.pattern(0, 100, 2, false, false);
+        x.send(0, 0, 0);
+        x.send(2, 0, 0);
+        x.keep();
+        x.clear();
+        x.send(3, 0, 0);
+        x.send(3, 0, 0);
+        x.restore();
+        Check.due("the break still stands between", x.send(1, 0, 0), 0);
+        x.clear();
+        x.send(0, 0, 0);
+        x.send(3, 0, 0);
+        x.keep();
+        x.clear();
+        x.send(2, 0, 0);
+        x.send(2, 0, 0);
+        x.restore();
+        Check.due("there was no break", x.send(1, 0, 0), 1);
     }
 
     private static void lostComesBack() {

@@ -1,5 +1,4 @@
 import java.util.ArrayList;
-import java.util.Arrays;
 import java.util.Collections;
 import java.util.LinkedHashMap;
 import java.util.List;
@@ -469,6 +468,6 @@ final class Model {
 
     int state(int what) {
         int[] all = {now.happened, now.lost, now.time, now.given};
-        return within(what, 0, 3) ? Arrays.copyOf(all, 4)[what] : -1;
+        return within(what, 0, 3) ? all[what] : -1;
     }
 }

@@ -92,7 +92,6 @@ public final class PatternTest {
                 new int[][] {{0, 0, 0, 0}, {1, 2, 0, 0}, {1, 1, 0, 0}, {1, 2, 0, 0}, {1, 0, 0, 0}, {1, 2, 0, 0},
                     {1, 1, 0, 0}, {1, 2, 0, 0}, {1, 1, 0, 0}, {1, 2, 0, 0}},
                 NONE, NONE, NONE, 1, NONE, 1, NONE, 3, NONE, 5);
-        // Two conditions more are not looked at for the end.
         x = pattern(100, 4, false, false, 0, 1, 0);
         Check.outputs(x, 4, "0, 1, 0",
                 new int[][] {{0, 0, 0, 0}, {1, 0, 0, 0}, {1, 1, 0, 0}, {1, 1, 0, 0}, {1, 0, 0, 0}},
