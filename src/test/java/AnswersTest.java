@@ -9,6 +9,10 @@ public final class AnswersTest {
         outputsOfNothing();
         whatStateAnswers();
         givenInAll();
+        outputsOfEachSlot();
+        outputsThatWereGiven();
+        givenSince();
+        goneQuestionsCount();
         Check.finish();
     }
 
@@ -102,5 +106,80 @@ public final class AnswersTest {
         x.send(0, 0, 5);
         Check.due("four", x.state(3), 4);
         Check.due("of the new one", x.given(2, 0), 1);
+    }
+
+    /** "k 0..7": after each number of outputs, in each slot. */
+    private static void outputsOfEachSlot() {
+        for (int slot = 0; slot <= 5; slot++) {
+            EventDesk x = echo(slot);
+            for (int i = 1; i <= 17; i++) {
+                x.send(0, 0, -i);
+                for (int k = 0; k <= 8; k++) {
+                    boolean isThere = k <= 7 && k < i;
+                    Check.due("output(" + slot + ", " + k + ") of " + i, x.output(slot, k), isThere ? k - i : 0);
+                }
+            }
+        }
+    }
+
+    /** Only what was given is an output; what did not count, or was passed over, is none. */
+    private static void outputsThatWereGiven() {
+        EventDesk x = echo(0);
+        x.giving(0, 0, 2, 4);
+        for (int i = 1; i <= 6; i++) {
+            x.send(0, 0, i);
+            x.send(0, 0, -i);
+        }
+        Check.due("given", x.given(0, 0), 3);
+        Check.due("counted", x.given(0, 1), 6);
+        int[] want = {6, 4, 2, 0, 0, 0, 0, 0};
+        for (int k = 0; k <= 7; k++) {
+            Check.due("output " + k, x.output(0, k), want[k]);
+        }
+    }
+
+    /** "since it was set (or clear())". */
+    private static void givenSince() {
+        EventDesk x = echo(4);
+        x.send(0, 0, 1);
+        x.send(0, 0, 2);
+        x.clear();
+        Check.due("given since clear", x.given(4, 0), 0);
+        Check.due("counted since clear", x.given(4, 1), 0);
+        Check.due("output since clear", x.output(4, 0), 0);
+        x.send(0, 0, 3);
+        Check.due("given since clear", x.given(4, 0), 1);
+        Check.due("counted since clear", x.given(4, 1), 1);
+        Check.due("output since clear", x.output(4, 0), 3);
+        Check.due("none before", x.output(4, 1), 0);
+        Check.always(x);
+        x.window(4, 1, 1, 1, false);
+        Check.due("given since set", x.given(4, 0), 0);
+        Check.due("counted since set", x.given(4, 1), 0);
+        Check.due("output since set", x.output(4, 0), 0);
+        Check.due("in all since clear", x.state(3), 1);
+    }
+
+    /** "by questions now gone too": removed, replaced, or both; but not beyond clear(). */
+    private static void goneQuestionsCount() {
+        EventDesk x = new EventDesk();
+        int given = 0;
+        for (int slot = 0; slot <= 5; slot++) {
+            Check.always(x);
+            x.window(slot, 1, 1, 1, false);
+            x.send(0, 0, 1);
+            given++;
+            Check.due("one more", x.state(3), given);
+            if (slot % 2 == 0) {
+                x.remove(slot);
+            } else {
+                Check.typesAre(x, 3, 3);
+                x.join(slot, 1, 1);
+            }
+            Check.due("gone", x.state(3), given);
+        }
+        Check.due("happened", x.state(0), 6);
+        x.clear();
+        Check.due("cleared", x.state(3), 0);
     }
 }

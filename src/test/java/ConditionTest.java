@@ -16,6 +16,16 @@ public final class ConditionTest {
         termNot();
         anyValueButZeroMeets();
         deepestStack();
+        wrappingArithmetic();
+        restAtTheEnds();
+        comparisonsAtTheEnds();
+        termsOfZero();
+        thirteenthTermOfEachSort();
+        dropOfEachNumber();
+        dropLeavesQuestions();
+        anyValueMeetsInEachPlace();
+        fullestDesk();
+        timeOfTheEvent();
         Check.finish();
     }
 
@@ -232,5 +242,196 @@ public final class ConditionTest {
         meets(true, 3, 0, 0, 1, 0, 2, 0, 3, 0, 4, 0, 5, 1, 6, 6, 6, 6, 6, 12);
         meets(false, 4, 0, 0, 1, 0, 2, 0, 3, 0, 4, 0, 5, 1, 6, 6, 6, 6, 6, 12);
         isCondition(false, 1, 1, 1, 1, 1, 1, 1, 1, 1, 1, 1, 1);
+    }
+
+    /** "wrapping": at both ends of the ints. */
+    private static void wrappingArithmetic() {
+        leaves(-2, H, H, 1, 2, 5);
+        leaves(0, L, L, 1, 2, 5);
+        leaves(H, L, -1, 1, 2, 5);
+        leaves(L, 0, L, 1, 2, 6);
+        leaves(-1, H, L, 1, 2, 6);
+        leaves(1, L, H, 1, 2, 6);
+        leaves(L, H, -1, 1, 2, 6);
+        leaves(1, H, H, 1, 2, 7);
+        leaves(0, L, L, 1, 2, 7);
+        leaves(0, L, 2, 1, 2, 7);
+        leaves(-2, H, 2, 1, 2, 7);
+        leaves(L, H, L, 1, 2, 7);
+        leaves(-1640531535, -1640531535, 1, 1, 2, 7);
+        leaves(1073807361, 32769, 32769, 1, 2, 7);
+    }
+
+    /** "the rest of x / y (its sign that of x), 0 if y is 0". */
+    private static void restAtTheEnds() {
+        leaves(-1, L, H, 1, 2, 13);
+        leaves(H, H, L, 1, 2, 13);
+        leaves(0, L, L, 1, 2, 13);
+        leaves(0, H, H, 1, 2, 13);
+        leaves(0, L, 1, 1, 2, 13);
+        leaves(0, H, -1, 1, 2, 13);
+        leaves(0, L, 2, 1, 2, 13);
+        leaves(1, H, 2, 1, 2, 13);
+        leaves(1, H, -2, 1, 2, 13);
+        leaves(-2, -2, L, 1, 2, 13);
+        leaves(0, 0, 0, 1, 2, 13);
+        leaves(0, 0, -5, 1, 2, 13);
+        leaves(0, H, 0, 1, 2, 13);
+        leaves(0, -1, 0, 1, 2, 13);
+        leaves(0, 6, 3, 1, 2, 13);
+        leaves(0, -6, 3, 1, 2, 13);
+    }
+
+    /** "8 x y -- 1 if x < y", "9 x y -- 1 if x = y": beside the edge, and where x - y would wrap. */
+    private static void comparisonsAtTheEnds() {
+        leaves(0, L, L, 1, 2, 8);
+        leaves(0, H, H, 1, 2, 8);
+        leaves(1, L, L + 1, 1, 2, 8);
+        leaves(1, H - 1, H, 1, 2, 8);
+        leaves(0, H, H - 1, 1, 2, 8);
+        leaves(1, L, 1, 1, 2, 8);
+        leaves(0, 1, L, 1, 2, 8);
+        leaves(1, -1, 0, 1, 2, 8);
+        leaves(0, 0, -1, 1, 2, 8);
+        leaves(1, L, L, 1, 2, 9);
+        leaves(1, H, H, 1, 2, 9);
+        leaves(0, L, H, 1, 2, 9);
+        leaves(0, 0, L, 1, 2, 9);
+        leaves(0, 1, -1, 1, 2, 9);
+        leaves(1, L, L, 1, 2, 10);
+        leaves(1, L, H, 1, 2, 10);
+        leaves(1, L, L, 1, 2, 11);
+        leaves(1, 0, L, 1, 2, 11);
+        leaves(0, H, 0, 1, 12);
+        leaves(0, -1, 0, 1, 12);
+    }
+
+    /** "happen at the time of the clock (.. 0 at first)", "3 -- its type": the lowest of each is 0. */
+    private static void termsOfZero() {
+        EventDesk x = new EventDesk();
+        Check.condition(x, 4);
+        x.window(0, 0, 0, 0, false);
+        Check.condition(x, 3);
+        x.window(1, 0, 0, 0, false);
+        Check.due("time 0, type 0", x.send(0, 9, 9), 0);
+        Check.due("time 0, type 3", x.send(3, 9, 9), 1);
+        x.advance(1);
+        Check.due("time 1, type 0", x.send(0, 9, 9), 1);
+        Check.due("time 1, type 1", x.send(1, 9, 9), 2);
+    }
+
+    /** "false .. if .. there are 12": whichever term it is, and the twelve are what they were. */
+    private static void thirteenthTermOfEachSort() {
+        EventDesk x = new EventDesk();
+        // The type less 1, four times plus 0, and at last not.
+        Check.terms(x, 3, 0, 1, 6);
+        for (int i = 4; i <= 12; i++) {
+            Check.due("term number " + i, x.term(i == 12 ? 12 : i % 2 == 0 ? 0 : 5, 0), true);
+        }
+        for (int op = -1; op <= 14; op++) {
+            Check.due("thirteenth term " + op, x.term(op, 1), false);
+        }
+        Check.due("a condition of twelve", x.condition(), true);
+        Check.due("window", x.window(0, 0, 0, 0, false), true);
+        Check.sends(x, "only type 1", new int[][] {{0, 0, 0}, {1, 0, 0}, {2, 0, 0}, {3, 0, 0}}, 0, 1, 0, 0);
+    }
+
+    /** "answers how many terms and conditions there were": from none to all that there can be. */
+    private static void dropOfEachNumber() {
+        for (int conditions = 0; conditions <= 3; conditions++) {
+            for (int terms = 0; terms <= 12; terms++) {
+                EventDesk x = new EventDesk();
+                for (int i = 0; i < conditions; i++) {
+                    Check.condition(x, 1, 2, 5);
+                }
+                for (int i = 0; i < terms; i++) {
+                    Check.due("term", x.term(i % 14, 0), true);
+                }
+                Check.due("drop of " + terms + " and " + conditions, x.drop(), terms + conditions);
+                Check.due("again", x.drop(), 0);
+                Check.due("no program is left", x.condition(), false);
+                for (int i = 1; i <= 3; i++) {
+                    Check.always(x);
+                }
+                Check.due("there was room for three", x.drop(), 3);
+                for (int i = 1; i <= 12; i++) {
+                    Check.due("there is room for twelve", x.term(1, 0), true);
+                }
+            }
+        }
+    }
+
+    /** drop() empties the program and the list, and nothing else. */
+    private static void dropLeavesQuestions() {
+        EventDesk x = new EventDesk();
+        Check.typeIs(x, 1);
+        x.window(0, 0, 0, 1, false);
+        x.send(1, 0, 5);
+        x.advance(4);
+        x.keep();
+        Check.typesAre(x, 2, 3);
+        Check.terms(x, 1);
+        Check.due("drop", x.drop(), 3);
+        Check.state(x, "after drop", 1, 0, 4, 1);
+        Check.due("sum", x.send(1, 0, 6), 1);
+        Check.due("sum", x.output(0, 0), 11);
+        Check.due("restore", x.restore(), true);
+        Check.due("output", x.output(0, 0), 5);
+    }
+
+    /** "an event MEETS it if the one value that is left is not 0": in the place of each condition. */
+    private static void anyValueMeetsInEachPlace() {
+        for (int value : new int[] {L, -1, 1, 2, H, 0}) {
+            int met = value == 0 ? 0 : 1;
+            EventDesk x = new EventDesk();
+            Check.condition(x, 0, value);
+            Check.condition(x, 0, value);
+            Check.condition(x, 0, value);
+            x.pattern(0, 9, 4, false, false);
+            Check.condition(x, 0, value);
+            Check.condition(x, 0, value);
+            x.join(1, 9, 9);
+            Check.sends(x, "value " + value, new int[][] {{0, 0, 0}, {0, 0, 0}, {0, 0, 0}}, 0, met, 2 * met);
+        }
+    }
+
+    /** "one to twelve terms", "at most 3", "slots 0..5": as many as there can be, each as it was built. */
+    private static void fullestDesk() {
+        EventDesk x = new EventDesk();
+        for (int slot = 0; slot <= 5; slot++) {
+            for (int which = 0; which <= 2; which++) {
+                // Twelve terms: a = 100 slot + which, with a's terms added and taken off again.
+                Check.condition(x, 1, 2, 5, 2, 6, 0, 100 * slot, 6, 0, which, 9, 12, 12);
+            }
+            Check.due("pattern " + slot, x.pattern(slot, 9, 4, false, false), true);
+        }
+        x.keep();
+        for (int round = 0; round <= 1; round++) {
+            for (int slot = 0; slot <= 5; slot++) {
+                for (int which = 0; which <= 2; which++) {
+                    Check.due("slot " + slot + ", condition " + which, x.send(0, 100 * slot + which, 50), which == 2 ? 1 : 0);
+                }
+                Check.due("given " + slot, x.given(slot, 0), 1);
+                Check.due("none of them", x.send(0, 100 * slot + 3, 50), 0);
+            }
+            Check.due("restore", x.restore(), true);
+        }
+    }
+
+    /** "4 -- its time": that of when it happened, though the clock goes on. */
+    private static void timeOfTheEvent() {
+        EventDesk x = new EventDesk();
+        Check.condition(x, 4, 0, 5, 8);
+        x.window(0, 0, 0, 1, false);
+        Check.condition(x, 4, 0, 5, 8, 12);
+        x.window(1, 0, 0, 1, false);
+        Check.due("at 0", x.send(0, 0, 1), 1);
+        x.advance(4);
+        Check.due("at 4", x.send(0, 0, 2), 1);
+        Check.due("before 5", x.output(0, 0), 3);
+        x.advance(1);
+        Check.due("at 5", x.send(0, 0, 4), 1);
+        Check.due("before 5", x.given(0, 0), 2);
+        Check.due("from 5 on", x.output(1, 0), 4);
     }
 }

@@ -14,6 +14,11 @@ public final class JoinTest {
         firstBeforeSecond();
         sums();
         seesFromWhenItIsSet();
+        eachNAndM();
+        noOutputIfThereAreNone();
+        bothSidesOfEachSize();
+        sumsWrap();
+        sidesAreNotOld();
         Check.finish();
     }
 
@@ -146,5 +151,81 @@ public final class JoinTest {
         Check.typesAre(x, 0, 1);
         x.join(3, 5, 5);
         Check.outputs(x, 3, "set later", new int[][] {{0, 0, 1, 4}, {0, 1, 1, 8}, {0, 0, 1, 0}}, NONE, 4, 8);
+    }
+
+    /** "the latest n events that met the first .. the latest m that met the second": each from 1 to 16. */
+    private static void eachNAndM() {
+        for (int n = 1; n <= 16; n++) {
+            int m = 17 - n;
+            EventDesk x = join(n, m, 0, 1);
+            for (int i = 0; i < 17; i++) {
+                Check.due("left, nothing on the right", x.send(0, 0, 1), 0);
+            }
+            Check.due("send", x.send(1, 0, 100), 1);
+            Check.due("left of " + n, x.output(3, 0), n);
+            for (int i = 0; i < 17; i++) {
+                x.send(1, 0, 100);
+            }
+            Check.due("left is still of " + n, x.output(3, 0), n);
+            x.send(0, 0, 1);
+            Check.due("right of " + m, x.output(3, 0), 100 * m);
+        }
+    }
+
+    /** "no output if there are none": with the same a, on the other side; and nothing counts then. */
+    private static void noOutputIfThereAreNone() {
+        EventDesk x = join(2, 2, 0, 1);
+        x.giving(3, L, 1, 2);
+        Check.outputs(x, 3, "none",
+                new int[][] {{0, 0, 1, 5}, {0, 1, 2, 6}, {0, 0, 3, 7}, {0, 1, L, 8}, {0, 0, H, 9}, {0, 2, 1, 10}, {0, 3, 2, 11}},
+                NONE, NONE, NONE, NONE, NONE, NONE, NONE);
+        Check.due("counted", x.given(3, 1), 0);
+        Check.due("nothing was routed", x.state(0), 7);
+        // The first on the left has left it by now.
+        Check.outputs(x, 3, "none any more", new int[][] {{0, 1, 1, 5}}, NONE);
+        Check.outputs(x, 3, "still there", new int[][] {{0, 1, 3, 5}}, 7);
+    }
+
+    /** "(An event that meets both is put into both before; with itself it makes no pair.)" */
+    private static void bothSidesOfEachSize() {
+        for (int n = 1; n <= 4; n++) {
+            for (int m = 1; m <= 4; m++) {
+                EventDesk x = join(n, m, 4, 4);
+                for (int i = 0; i < 8; i++) {
+                    int pairs = Math.min(i, m - 1);
+                    Check.due("both, " + n + " and " + m + ": send " + i, x.send(0, 5, 1), pairs == 0 ? 0 : 1);
+                    Check.due("both, " + n + " and " + m + ": sum", x.output(3, 0), pairs);
+                }
+            }
+        }
+        // Put into the left as well: those that meet only the second find it there.
+        EventDesk x = new EventDesk();
+        Check.condition(x, 3, 0, 2, 8);
+        Check.condition(x, 3, 12, 12);
+        Check.due("types 0 and 1, types 1 to 3", x.join(3, 2, 2), true);
+        Check.outputs(x, 3, "0 left, 1 both, 2 and 3 right",
+                new int[][] {{0, 1, 9, 1}, {0, 3, 9, 2}, {0, 0, 9, 4}, {0, 2, 9, 8}, {0, 1, 9, 16}, {0, 3, 9, 32}, {0, 1, 9, 64}},
+                NONE, 1, 3, 5, 8, 20, 32);
+    }
+
+    /** "the sum (wrapping)": beyond both ends. */
+    private static void sumsWrap() {
+        EventDesk x = join(3, 3, 0, 1);
+        Check.outputs(x, 3, "wrapping",
+                new int[][] {{0, 0, 1, H}, {0, 0, 1, H}, {0, 1, 1, 0}, {0, 0, 1, 3}, {0, 1, 1, 0}, {0, 0, 1, L}, {0, 1, 1, 0},
+                    {0, 0, 1, L}, {0, 1, 1, 0}, {0, 0, 1, L + 1}, {0, 1, 1, 0}},
+                NONE, NONE, -2, 0, 1, 0, 2, 0, 3, 0, L + 1);
+    }
+
+    /** The clock does not matter to a join, and neither do the events that meet neither condition. */
+    private static void sidesAreNotOld() {
+        EventDesk x = join(1, 1, 0, 1);
+        x.send(0, 1, 5);
+        for (int i = 0; i < 40; i++) {
+            x.advance(100);
+            Check.due("neither", x.send(2 + i % 2, 1, 9), 0);
+        }
+        Check.due("still on the left", x.send(1, 1, 0), 1);
+        Check.due("output", x.output(3, 0), 5);
     }
 }

@@ -19,6 +19,15 @@ public final class KeepTest {
         clearKeepsQuestions();
         clearedPatternsAndJoins();
         clearKeepsProgramAndKept();
+        nothingReachesWhatIsKept();
+        eightOutputsComeBack();
+        keptLast();
+        halvesComeBack();
+        clearAnswersEachNumber();
+        clearedViews();
+        clearBringsNothingBack();
+        everySettingComesBack();
+        everySettingIsCleared();
         Check.finish();
     }
 
@@ -327,5 +336,307 @@ public final class KeepTest {
         Check.due("what is kept stays", x.restore(), true);
         Check.state(x, "as kept", 1, 0, 1, 1);
         Check.due("output", x.output(0, 0), 5);
+    }
+
+    /** A window's, a pattern's and a join's question, each with something seen and given. */
+    private static EventDesk three() {
+        EventDesk x = new EventDesk();
+        Check.always(x);
+        x.window(0, 1, 3, 1, false);
+        Check.typesAre(x, 0, 1);
+        x.pattern(1, 50, 2, true, true);
+        Check.typesAre(x, 0, 1);
+        x.join(2, 2, 2);
+        x.send(0, 1, 5);
+        x.send(1, 1, 6);
+        x.advance(4);
+        x.send(0, 1, 7);
+        return x;
+    }
+
+    private static void isAsThree(EventDesk x, String what) {
+        Check.state(x, what, 3, 0, 4, 6);
+        int[][] want = {{3, 3, 18, 11, 5, 0}, {1, 1, 1, 0, 0, 0}, {2, 2, 6, 5, 0, 0}};
+        for (int slot = 0; slot <= 2; slot++) {
+            Check.due(what + ": given " + slot, x.given(slot, 0), want[slot][0]);
+            Check.due(what + ": counted " + slot, x.given(slot, 1), want[slot][1]);
+            for (int k = 0; k <= 3; k++) {
+                Check.due(what + ": output " + slot + " " + k, x.output(slot, k), want[slot][2 + k]);
+            }
+        }
+        for (int slot = 3; slot <= 5; slot++) {
+            Check.due(what + ": nothing in " + slot, x.given(slot, 0), -1);
+        }
+        // What was seen: two more in the window, a first that has not ended, two on the left.
+        Check.due(what + ": goes on", x.send(1, 1, 100), 3);
+        Check.due(what + ": window", x.output(0, 0), 113);
+        Check.due(what + ": pattern", x.output(1, 0), 1);
+        Check.due(what + ": join, the left", x.output(2, 0), 12);
+        Check.due(what + ": restore", x.restore(), true);
+        Check.due(what + ": goes on", x.send(0, 1, 100), 2);
+        Check.due(what + ": join, the right", x.output(2, 0), 6);
+    }
+
+    /** "(it stays kept)": whatever is done after keep() or restore(), each restore() brings it back whole. */
+    private static void nothingReachesWhatIsKept() {
+        for (int deed = 0; deed <= 9; deed++) {
+            EventDesk x = three();
+            x.keep();
+            for (int round = 1; round <= 2; round++) {
+                disturb(x, deed);
+                Check.due("restore", x.restore(), true);
+                isAsThree(x, "deed " + deed + ", round " + round);
+            }
+        }
+    }
+
+    private static void disturb(EventDesk x, int deed) {
+        switch (deed) {
+            case 0:
+                x.send(1, 1, 9);
+                break;
+            case 1:
+                x.advance(100);
+                break;
+            case 2:
+                x.clear();
+                x.send(3, 3, 3);
+                break;
+            case 3:
+                x.remove(0);
+                x.remove(1);
+                x.remove(2);
+                break;
+            case 4:
+                x.giving(0, 1000, 8, 3);
+                x.giving(1, 1000, 8, 3);
+                x.giving(2, 1000, 8, 3);
+                break;
+            case 5:
+                for (int slot = 0; slot <= 5; slot++) {
+                    Check.typesAre(x, 3);
+                    x.window(slot, 3, 2, 0, true);
+                }
+                break;
+            case 6:
+                for (int slot = 0; slot <= 5; slot++) {
+                    Check.typesAre(x, 3, 3, 3);
+                    x.pattern(slot, 1, 0, false, false);
+                }
+                break;
+            case 7:
+                for (int slot = 0; slot <= 5; slot++) {
+                    Check.typesAre(x, 3, 3);
+                    x.join(slot, 1, 1);
+                }
+                break;
+            case 8:
+                for (int i = 0; i < 60; i++) {
+                    x.send(i % 4, i % 3, i);
+                }
+                break;
+            default:
+                x.drop();
+                break;
+        }
+    }
+
+    /** "Keeps the state: .. outputs": the latest eight, after as many others. */
+    private static void eightOutputsComeBack() {
+        EventDesk x = new EventDesk();
+        Check.always(x);
+        x.window(0, 1, 1, 1, false);
+        for (int i = 1; i <= 11; i++) {
+            x.send(0, 0, i);
+        }
+        x.keep();
+        for (int i = 1; i <= 9; i++) {
+            x.send(0, 0, -i);
+        }
+        Check.due("restore", x.restore(), true);
+        for (int k = 0; k <= 7; k++) {
+            Check.due("output " + k, x.output(0, k), 11 - k);
+        }
+        Check.due("output 8", x.output(0, 8), 0);
+        x.send(0, 0, 12);
+        for (int k = 0; k <= 7; k++) {
+            Check.due("one more: output " + k, x.output(0, k), 12 - k);
+        }
+    }
+
+    /** "that was kept last": each keep() takes the place of the one before, after a restore() too. */
+    private static void keptLast() {
+        EventDesk x = sum();
+        for (int i = 1; i <= 5; i++) {
+            x.send(0, 0, 1);
+            x.advance(10);
+            x.keep();
+            x.clear();
+            Check.due("restore", x.restore(), true);
+            Check.state(x, "keep " + i, i, 0, 10 * i, i);
+            Check.due("sum", x.output(0, 0), i);
+        }
+        x.clear();
+        x.keep();
+        x.send(0, 0, 9);
+        Check.due("restore", x.restore(), true);
+        Check.state(x, "the empty one", 0, 0, 0, 0);
+        Check.due("given", x.given(0, 0), 0);
+    }
+
+    /** A batch that is not full, and a rate that is on its way, are kept with the question. */
+    private static void halvesComeBack() {
+        EventDesk x = new EventDesk();
+        Check.always(x);
+        x.window(0, 3, 3, 1, false);
+        Check.always(x);
+        x.window(1, 1, 1, 1, false);
+        x.giving(1, 0, 3, 4);
+        x.send(0, 0, 1);
+        x.send(0, 0, 2);
+        x.keep();
+        Check.due("third", x.send(0, 0, 4), 2);
+        Check.due("fourth", x.send(0, 0, 8), 0);
+        x.restore();
+        Check.due("third again", x.send(0, 0, 16), 2);
+        Check.due("batch", x.output(0, 0), 19);
+        Check.due("each third", x.output(1, 0), 16);
+        x.restore();
+        x.clear();
+        Check.sends(x, "from the beginning", new int[][] {{0, 0, 1}, {0, 0, 1}, {0, 0, 1}, {0, 0, 1}}, 0, 0, 2, 0);
+    }
+
+    /** "Answers how many events had happened": each number of them, sent or routed. */
+    private static void clearAnswersEachNumber() {
+        EventDesk x = new EventDesk();
+        Check.typeIs(x, 0);
+        x.window(0, 0, 0, 0, false);
+        x.giving(0, L, 1, 1);
+        for (int i = 0; i <= 8; i++) {
+            for (int j = 0; j < i; j++) {
+                x.send(j % 2, 0, 0);
+            }
+            int routed = (i + 1) / 2;
+            Check.due("clear after " + i, x.clear(), i + routed);
+            Check.state(x, "clear after " + i, 0, 0, 0, 0);
+        }
+    }
+
+    /** "the questions stay, having seen nothing": of every view, and in the time that begins again. */
+    private static void clearedViews() {
+        for (int view = 0; view <= 5; view++) {
+            EventDesk x = new EventDesk();
+            Check.always(x);
+            x.window(0, view, 3, 1, false);
+            for (int i = 0; i < 4; i++) {
+                x.send(0, i, 100);
+                x.advance(1);
+            }
+            x.clear();
+            Check.outputs(x, 0, "cleared view " + view,
+                    new int[][] {{0, 0, 7, 1}, {0, 0, 8, 2}, {1, 0, 9, 4}}, view == 3 ? NONE : 1, view == 3 ? NONE : 3, 7);
+        }
+    }
+
+    /** An empty slot stays empty, and a removed question does not come back by clear(). */
+    private static void clearBringsNothingBack() {
+        EventDesk x = sum();
+        x.send(0, 0, 1);
+        x.remove(0);
+        Check.due("clear", x.clear(), 1);
+        for (int slot = 0; slot <= 5; slot++) {
+            Check.due("given", x.given(slot, 0), -1);
+        }
+        Check.due("send", x.send(0, 0, 1), 0);
+        Check.due("restore", x.restore(), false);
+    }
+
+    /** Every setting of a question, as numbers: {sort, and what its method takes besides the slot}. */
+    private static int[][] settings() {
+        return new int[][] {
+            {0, 0, 1, 1, 0}, {0, 1, 2, 1, 0}, {0, 1, 3, 1, 1}, {0, 2, 2, 1, 0}, {0, 2, 4, 5, 1}, {0, 3, 2, 1, 0}, {0, 3, 3, 1, 1},
+            {0, 4, 1, 1, 0}, {0, 4, 1, 4, 1}, {0, 5, 2, 1, 0}, {0, 5, 3, 1, 1}, {0, 0, 1, 0, 1}, {0, 0, 1, 2, 0}, {0, 0, 1, 3, 1},
+            {0, 0, 1, 4, 0}, {0, 0, 1, 5, 0},
+            {1, 3, 4, 0, 0}, {1, 3, 2, 0, 1}, {1, 6, 4, 1, 0}, {1, 6, 0, 1, 1}, {1, 9, 3, 0, 0}, {1, 9, 1, 1, 1},
+            {2, 1, 1, 0, 0}, {2, 1, 4, 0, 0}, {2, 4, 1, 0, 0}, {2, 3, 3, 0, 0}};
+    }
+
+    private static void setSetting(EventDesk x, int slot, int[] s) {
+        if (s[0] == 0) {
+            Check.condition(x, 3, 0, 3, 8);
+            Check.due("window", x.window(slot, s[1], s[2], s[3], s[4] == 1), true);
+        } else if (s[0] == 1) {
+            Check.condition(x, 3, 0, 2, 8);
+            Check.condition(x, 3, 0, 0, 9, 12);
+            if (s[1] == 6) {
+                Check.condition(x, 3, 0, 3, 8);
+            }
+            Check.due("pattern", x.pattern(slot, s[1], s[2], s[3] == 1, s[4] == 1), true);
+        } else {
+            Check.condition(x, 3, 0, 2, 8);
+            Check.condition(x, 3, 0, 0, 9, 12);
+            Check.due("join", x.join(slot, s[1], s[2]), true);
+        }
+    }
+
+    /** Events of all types, for each the sent one's answer and the slot's outputs, from the time on that it is. */
+    private static String told(EventDesk x, int slot, int events) {
+        StringBuilder all = new StringBuilder();
+        for (int i = 0; i < events; i++) {
+            all.append(x.send(i * 5 % 4, i / 2 % 2, i * i % 11)).append(' ').append(x.output(slot, 0)).append(' ');
+            all.append(x.given(slot, 0)).append(' ').append(x.given(slot, 1)).append(' ');
+            all.append(x.advance(i % 3 == 2 ? 2 : 0)).append(';');
+        }
+        for (int what = 0; what <= 3; what++) {
+            all.append(x.state(what)).append(' ');
+        }
+        return all.toString();
+    }
+
+    private static void sameTold(String what, String got, String want) {
+        Check.due(what + ": " + got + ", due is " + want, got.equals(want), true);
+    }
+
+    /** "Keeps the state: questions, events, outputs, clock": taken back, it goes on as if nothing had been between. */
+    private static void everySettingComesBack() {
+        for (int[] setting : settings()) {
+            for (int slot = 0; slot <= 5; slot += 5) {
+                for (int before = 0; before <= 7; before++) {
+                    EventDesk x = new EventDesk();
+                    setSetting(x, slot, setting);
+                    x.giving(slot, 0, 1 + before % 2, before % 3 == 0 ? 4 : 3);
+                    told(x, slot, before);
+                    x.keep();
+                    String want = told(x, slot, 12);
+                    x.clear();
+                    setSetting(x, slot, settings()[before]);
+                    told(x, slot, 9);
+                    Check.due("restore", x.restore(), true);
+                    sameTold("restored " + java.util.Arrays.toString(setting), told(x, slot, 12), want);
+                    Check.due("restore", x.restore(), true);
+                    sameTold("restored again " + java.util.Arrays.toString(setting), told(x, slot, 12), want);
+                }
+            }
+        }
+    }
+
+    /** "the questions stay, having seen nothing": a cleared desk answers as one whose questions are new. */
+    private static void everySettingIsCleared() {
+        for (int[] setting : settings()) {
+            for (int slot = 0; slot <= 5; slot += 5) {
+                for (int before = 0; before <= 7; before++) {
+                    EventDesk x = new EventDesk();
+                    EventDesk y = new EventDesk();
+                    x.send(0, 0, 0);
+                    setSetting(x, slot, setting);
+                    setSetting(y, slot, setting);
+                    x.giving(slot, 0, 1 + before % 2, before % 3 == 0 ? 4 : 3);
+                    y.giving(slot, 0, 1 + before % 2, before % 3 == 0 ? 4 : 3);
+                    told(x, slot, before);
+                    x.clear();
+                    sameTold("cleared " + java.util.Arrays.toString(setting), told(x, slot, 12), told(y, slot, 12));
+                }
+            }
+        }
     }
 }

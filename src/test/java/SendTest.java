@@ -13,6 +13,14 @@ public final class SendTest {
         waitingEventsTakePlaces();
         lostOutputsAreGiven();
         howTheClockGoesOn();
+        sixtyFourSinceClear();
+        eachNumberOfPlacesLeft();
+        laterSlotsAreLost();
+        lostOnAndOn();
+        onlyThisCallsOutputs();
+        eachAdvance();
+        advanceGivesNothing();
+        lostOfEachType();
         Check.finish();
     }
 
@@ -176,5 +184,151 @@ public final class SendTest {
         Check.condition(x, 4, 0, 48108, 9);
         x.window(0, 0, 0, 0, false);
         Check.due("an event's time", x.send(0, 0, 0), 1);
+    }
+
+    /** "At most 64 happen since the beginning or the latest clear()": sent or routed, again and again. */
+    private static void sixtyFourSinceClear() {
+        EventDesk x = new EventDesk();
+        for (int round = 1; round <= 3; round++) {
+            for (int i = 1; i <= 64; i++) {
+                Check.due("event " + i + " of round " + round, x.send(i % 4, 0, 0), 0);
+            }
+            Check.due("the 65th of round " + round, x.send(0, 0, 0), -1);
+            Check.state(x, "round " + round, 64, 0, 0, 0);
+            Check.due("clear", x.clear(), 64);
+        }
+        Check.typeIs(x, 0);
+        x.window(0, 0, 0, 0, false);
+        x.giving(0, L, 1, 1);
+        for (int i = 1; i <= 32; i++) {
+            Check.due("one and a routed one", x.send(0, 0, 0), 1);
+            Check.due("happened", x.state(0), 2 * i);
+        }
+        Check.due("no more", x.send(0, 0, 0), -1);
+        Check.state(x, "none was lost", 64, 0, 0, 32);
+    }
+
+    /** "If 64 events have happened or wait, it is LOST instead": with each number of places left. */
+    private static void eachNumberOfPlacesLeft() {
+        for (int before = 57; before <= 63; before++) {
+            EventDesk x = new EventDesk();
+            for (int slot = 0; slot <= 5; slot++) {
+                Check.typeIs(x, 0);
+                x.window(slot, 1, 1, 1, false);
+                x.giving(slot, L, 1, 1);
+            }
+            for (int i = 0; i < before; i++) {
+                x.send(3, 0, 0);
+            }
+            int places = 63 - before;
+            int lost = places < 6 ? 6 - places : 0;
+            Check.due("all six are given", x.send(0, 0, 9), 6);
+            Check.state(x, before + " before", 64 - (places < 6 ? 0 : places - 6), lost, 0, 6);
+            for (int slot = 0; slot <= 5; slot++) {
+                Check.due("lost or not, it was given", x.given(slot, 0), 1);
+                Check.due("output", x.output(slot, 0), 9);
+            }
+        }
+    }
+
+    /** The first that are routed have the places; those of the later slots are lost. */
+    private static void laterSlotsAreLost() {
+        EventDesk x = new EventDesk();
+        for (int slot = 0; slot <= 2; slot++) {
+            Check.typeIs(x, 0);
+            x.window(slot, 1, 1, 1, false);
+            x.giving(slot, L, 1, 1);
+        }
+        for (int slot = 3; slot <= 5; slot++) {
+            Check.condition(x, 3, 0, 1, 9, 1, 0, slot - 3, 9, 10);
+            x.window(slot, 0, 0, 0, false);
+        }
+        for (int i = 0; i < 61; i++) {
+            x.send(3, 0, 0);
+        }
+        Check.due("three, and two that happen", x.send(0, 0, 9), 5);
+        Check.state(x, "one was lost", 64, 1, 0, 5);
+        Check.due("of slot 0", x.given(3, 0), 1);
+        Check.due("of slot 1", x.given(4, 0), 1);
+        Check.due("not of slot 2", x.given(5, 0), 0);
+    }
+
+    /** Lost events are counted on and on; what is lost never happens. */
+    private static void lostOnAndOn() {
+        EventDesk x = new EventDesk();
+        Check.always(x);
+        x.window(0, 1, 1, 1, false);
+        x.giving(0, 0, 1, 1);
+        Check.always(x);
+        x.window(1, 1, 1, 1, false);
+        x.giving(1, 0, 1, 2);
+        // Each event is given twice and makes two: 1, 2, 4, .. 32, and of the last 32 but one finds a place.
+        Check.due("all 64 are given twice", x.send(0, 0, 5), 128);
+        Check.state(x, "128 outputs, 63 events of them", 64, 65, 0, 128);
+    }
+
+    /** "the number of outputs that were given": by this call alone, with those of routed events. */
+    private static void onlyThisCallsOutputs() {
+        EventDesk x = new EventDesk();
+        Check.always(x);
+        x.window(0, 1, 1, 1, false);
+        x.giving(0, 0, 2, 4);
+        Check.always(x);
+        x.window(1, 1, 1, 1, false);
+        x.giving(1, 3, 1, 4);
+        Check.sends(x, "not given, given, both, one",
+                new int[][] {{0, 0, 1}, {0, 0, 1}, {0, 0, 9}, {0, 0, 9}, {0, 0, 0}, {0, 0, 3}}, 0, 1, 1, 2, 0, 0);
+        Check.due("in all", x.state(3), 4);
+    }
+
+    /** "0..100": each of them, and what a d of 0 does: the clock stands, and events share their time. */
+    private static void eachAdvance() {
+        EventDesk x = new EventDesk();
+        int time = 0;
+        for (int d = 0; d <= 100; d++) {
+            time += d;
+            Check.due("advance(" + d + ")", x.advance(d), time);
+        }
+        Check.due("state(2)", x.state(2), time);
+        for (int d = -5; d <= 105; d++) {
+            time += d < 0 || d > 100 ? 0 : d;
+            Check.due("advance(" + d + ")", x.advance(d), d < 0 || d > 100 ? -1 : time);
+        }
+        Check.state(x, "no events", 0, 0, time, 0);
+    }
+
+    /** The clock alone changes no question: a view grows old only when a member comes. */
+    private static void advanceGivesNothing() {
+        EventDesk x = new EventDesk();
+        Check.always(x);
+        x.window(0, 2, 5, 0, false);
+        Check.always(x);
+        x.window(1, 5, 5, 0, false);
+        x.send(0, 0, 0);
+        for (int i = 0; i < 10; i++) {
+            x.advance(i);
+            Check.due("given", x.given(0, 0), 1);
+            Check.due("given", x.given(1, 0), 1);
+            Check.due("given in all", x.state(3), 2);
+        }
+        for (int i = 0; i < 63; i++) {
+            x.send(0, 0, 0);
+        }
+        Check.due("after 64 events the clock goes on, too", x.advance(100), 145);
+    }
+
+    /** A lost event is lost whatever its type would have been. */
+    private static void lostOfEachType() {
+        for (int route = 0; route <= 4; route++) {
+            EventDesk x = new EventDesk();
+            Check.always(x);
+            x.window(0, 1, 1, 1, false);
+            x.giving(0, 0, 1, route);
+            for (int i = 0; i < 63; i++) {
+                Check.due("not given", x.send(0, 0, 0), 0);
+            }
+            Check.due("given", x.send(0, 0, 1), 1);
+            Check.state(x, "route " + route, 64, route == 4 ? 0 : 1, 0, 1);
+        }
     }
 }

@@ -19,6 +19,18 @@ public final class WindowTest {
         totalsOfWideValues();
         grouped();
         seesFromWhenItIsSet();
+        fullViews();
+        eachNOfViewsOneAndThree();
+        eachNOfViewsTwoAndFive();
+        oldIsNotThePause();
+        batchIsGoneThoughNotCounted();
+        batchOfManyA();
+        middleOfEachNumber();
+        differentOnes();
+        sumsWrap();
+        firstMemberIsInTheView();
+        groupedAtTheEnds();
+        othersLeaveTheView();
         Check.finish();
     }
 
@@ -277,5 +289,159 @@ public final class WindowTest {
             Check.outputs(x, 2, "set later, view " + view, new int[][] {{0, 0, 2, 1}, {0, 0, 3, 2}},
                     view == 3 ? NONE : 1, 3);
         }
+    }
+
+    /** "At most 64 happen": a view that holds all of them, and each total over it. */
+    private static void fullViews() {
+        // b: 0, 37, 10, 47, .. all of 0..63 once, in some order; at the 64th the middle is number 31.
+        long[] want = {64, 2016, 0, 63, 64, 31};
+        for (int view : new int[] {0, 2, 4, 5}) {
+            for (int total = 0; total <= 5; total++) {
+                EventDesk x = window(view, 100, total, false, 0, 1);
+                for (int i = 0; i < 64; i++) {
+                    x.send(i % 4, i, i * 37 % 64);
+                }
+                Check.due("view " + view + ", total " + total + " of 64", x.output(2, 0), want[total]);
+                Check.due("view " + view + ", total " + total + ": given", x.given(2, 0), 64);
+            }
+        }
+    }
+
+    /** "1: the latest n", "3: .. full batch of n": n from 1 to 16, and neither one more nor one less. */
+    private static void eachNOfViewsOneAndThree() {
+        for (int n = 1; n <= 16; n++) {
+            EventDesk x = window(1, n, 1, false, 0, 1);
+            EventDesk y = window(3, n, 1, false, 0, 1);
+            for (int i = 1; i <= 40; i++) {
+                int first = i < n ? 1 : i - n + 1;
+                Check.due("latest " + n + ": send", x.send(0, i, i), 1);
+                Check.due("latest " + n + ": sum", x.output(2, 0), (first + i) * (i - first + 1) / 2);
+                Check.due("batch " + n + ": send", y.send(0, i, i), i % n == 0 ? 1 : 0);
+                Check.due("batch " + n + ": number", y.given(2, 1), i / n);
+                Check.due("batch " + n + ": sum", y.output(2, 0), i < n ? 0 : sumOfBatch(n, i / n));
+            }
+        }
+    }
+
+    private static int sumOfBatch(int n, int batch) {
+        int last = n * batch;
+        return (last - n + 1 + last) * n / 2;
+    }
+
+    /** "2: those that are less than n old", "5: .. n or more after the one before it": each n, from both sides. */
+    private static void eachNOfViewsTwoAndFive() {
+        for (int n = 1; n <= 100; n++) {
+            for (int view : new int[] {2, 5}) {
+                EventDesk x = window(view, n, 0, false, 0, 1);
+                Check.outputs(x, 2, "view " + view + ", n " + n,
+                        new int[][] {{0, 0, 1, 0}, {n - 1, 0, 1, 0}, {n, 0, 1, 0}, {n - 1, 0, 1, 0}},
+                        1, 2, 1, 2);
+            }
+        }
+    }
+
+    /** View 2 looks at how old each is, view 5 at how long nothing came: many short steps, a long way. */
+    private static void oldIsNotThePause() {
+        int[][] events = {{0, 0, 1, 1}, {2, 0, 1, 2}, {2, 0, 1, 4}, {2, 0, 1, 8}, {2, 0, 1, 16}};
+        Check.outputs(window(2, 3, 1, false, 0, 1), 2, "less than 3 old", events, 1, 3, 6, 12, 24);
+        Check.outputs(window(5, 3, 1, false, 0, 1), 2, "no pause of 3", events, 1, 3, 7, 15, 31);
+    }
+
+    /** "(an output only for the n-th one, of these n; they are gone then)": also if the output does not count. */
+    private static void batchIsGoneThoughNotCounted() {
+        EventDesk x = window(3, 2, 1, false, 0, 1);
+        x.giving(2, 10, 1, 4);
+        Check.outputs(x, 2, "batches of 2 over 10",
+                new int[][] {{0, 0, 0, 4}, {0, 0, 0, 5}, {0, 0, 0, 6}, {0, 0, 0, 7}, {0, 0, 0, 20}, {0, 0, 0, 1}},
+                NONE, NONE, NONE, 13, NONE, 21);
+        Check.due("counted", x.given(2, 1), 2);
+        // Nor does a rate hold a batch back.
+        x = window(3, 2, 1, false, 0, 1);
+        x.giving(2, L, 2, 4);
+        Check.outputs(x, 2, "each second batch of 2",
+                new int[][] {{0, 0, 0, 1}, {0, 0, 0, 2}, {0, 0, 0, 4}, {0, 0, 0, 8}, {0, 0, 0, 16}, {0, 0, 0, 32}},
+                NONE, NONE, NONE, 12, NONE, NONE);
+        Check.due("counted", x.given(2, 1), 3);
+    }
+
+    /** Grouped, the total of a full batch is over those with the a of the one that fills it. */
+    private static void batchOfManyA() {
+        EventDesk x = window(3, 4, 0, true, 0, 1);
+        Check.outputs(x, 2, "the n-th one's a",
+                new int[][] {{0, 0, 1, 0}, {0, 0, 2, 0}, {0, 0, 3, 0}, {0, 0, 4, 0}, {0, 0, 4, 0}, {0, 0, 4, 0},
+                    {0, 0, 3, 0}, {0, 0, 4, 0}},
+                NONE, NONE, NONE, 1, NONE, NONE, NONE, 3);
+    }
+
+    /** "5 the middle one (of m in ascending order number (m - 1) / 2, from 0 on)": m from 1 to 8. */
+    private static void middleOfEachNumber() {
+        EventDesk x = window(0, 0, 5, false, 0, 1);
+        Check.outputs(x, 2, "middle",
+                new int[][] {{0, 0, 0, 10}, {0, 0, 0, L + 1}, {0, 0, 0, H}, {0, 0, 0, -10}, {0, 0, 0, 20}, {0, 0, 0, 20},
+                    {0, 0, 0, 20}, {0, 0, 0, H}},
+                10, L + 1, 10, -10, 10, 10, 20, 20);
+    }
+
+    /** "4 how many different ones" of their b: the same b with another a is not different. */
+    private static void differentOnes() {
+        EventDesk x = window(0, 0, 4, false, 0, 1);
+        Check.outputs(x, 2, "different b",
+                new int[][] {{0, 0, 1, 7}, {0, 0, 2, 7}, {0, 1, 3, 7}, {5, 0, 1, L}, {0, 0, 1, H}, {0, 0, 1, 7}, {0, 0, 1, 0}},
+                1, 1, 1, 2, 3, 3, 4);
+        x = window(1, 2, 4, false, 0, 1);
+        Check.outputs(x, 2, "different b of the latest 2",
+                new int[][] {{0, 0, 1, 7}, {0, 0, 2, 8}, {0, 1, 3, 8}, {0, 0, 1, 9}}, 1, 2, 1, 2);
+    }
+
+    /** "1 the sum (wrapping)": beyond both ends, in a view that loses members as well. */
+    private static void sumsWrap() {
+        EventDesk x = window(0, 0, 1, false, 0, 1);
+        Check.outputs(x, 2, "all",
+                new int[][] {{0, 0, 0, H}, {0, 0, 0, H}, {0, 0, 0, 3}, {0, 0, 0, L}, {0, 0, 0, L + 1}},
+                H, -2, 1, L + 1, 2);
+        x = window(1, 2, 1, false, 0, 1);
+        Check.outputs(x, 2, "latest 2",
+                new int[][] {{0, 0, 0, H}, {0, 0, 0, H}, {0, 0, 0, 3}, {0, 0, 0, -5}, {0, 0, 0, L}, {0, 0, 0, L}},
+                H, -2, L + 2, -2, H - 4, 0);
+    }
+
+    /** "itself being in the view already": of a first member each total is its own. */
+    private static void firstMemberIsInTheView() {
+        long[] want = {1, -9, -9, -9, 1, -9};
+        for (int view = 0; view <= 5; view++) {
+            for (int total = 0; total <= 5; total++) {
+                for (int grouped = 0; grouped <= 1; grouped++) {
+                    EventDesk x = window(view, 1, total, grouped == 1, 0, 1);
+                    Check.outputs(x, 2, "the first of view " + view + ", total " + total,
+                            new int[][] {{7, 0, 3, -9}}, want[total]);
+                }
+            }
+        }
+    }
+
+    /** "with the same a as this one if the question is GROUPED": with a at both ends. */
+    private static void groupedAtTheEnds() {
+        EventDesk x = window(0, 0, 1, true, 0, 1);
+        Check.outputs(x, 2, "grouped",
+                new int[][] {{0, 0, L, 1}, {0, 0, H, 2}, {0, 0, -1, 4}, {0, 0, 0, 8}, {0, 0, L, 16}, {0, 0, H, 32}, {0, 0, 0, 64}},
+                1, 2, 4, 8, 17, 34, 72);
+        x = window(4, 0, 1, false, 0, 1);
+        Check.outputs(x, 2, "latest of each",
+                new int[][] {{0, 0, L, 1}, {0, 0, H, 2}, {0, 0, -1, 4}, {0, 0, 0, 8}, {0, 0, L, 16}, {0, 0, H, 32}},
+                1, 3, 7, 15, 30, 60);
+    }
+
+    /** An event that is no member leaves every view as it is, however long it comes after. */
+    private static void othersLeaveTheView() {
+        for (int view = 0; view <= 5; view++) {
+            EventDesk x = window(view, 2, 1, false, 3, 0, 1, 9);
+            Check.outputs(x, 2, "others, view " + view,
+                    new int[][] {{0, 1, 5, 1}, {0, 0, 5, 100}, {1, 2, 5, 100}, {0, 3, 6, 100}, {0, 1, 6, 2}, {1, 0, 6, 100}},
+                    view == 3 ? NONE : 1, NONE, NONE, NONE, 3, NONE);
+        }
+        // It ends no pause either.
+        EventDesk x = window(5, 2, 1, false, 3, 0, 1, 9);
+        Check.outputs(x, 2, "the pause goes on",
+                new int[][] {{0, 1, 0, 1}, {1, 0, 0, 100}, {1, 1, 0, 2}, {1, 1, 0, 4}}, 1, NONE, 2, 6);
     }
 }
