@@ -23,6 +23,7 @@ public final class AnswersTest {
         return x;
     }
 
+    /** "given (what 0) or counted (what 1) ..; -1 if there is none, or what is another". */
     private static void whatGivenAnswers() {
         EventDesk x = echo(5);
         Check.due("given at first", x.given(5, 0), 0);
@@ -44,6 +45,7 @@ public final class AnswersTest {
         }
     }
 
+    /** "Its output given k before the latest (k 0..7)". */
     private static void latestEightOutputs() {
         EventDesk x = echo(0);
         for (int i = 1; i <= 30; i++) {
@@ -63,6 +65,7 @@ public final class AnswersTest {
         }
     }
 
+    /** "0 if there is none". */
     private static void outputsOfNothing() {
         EventDesk x = echo(2);
         Check.due("none yet", x.output(2, 0), 0);
@@ -78,6 +81,7 @@ public final class AnswersTest {
         Check.due("of a question that is gone", x.output(2, 0), 0);
     }
 
+    /** "What 0: .. 1: .. 2: .. 3: ..; else -1". */
     private static void whatStateAnswers() {
         EventDesk x = echo(1);
         x.advance(20);
@@ -91,6 +95,7 @@ public final class AnswersTest {
         }
     }
 
+    /** "how many outputs were given in all, by questions now gone too". */
     private static void givenInAll() {
         EventDesk x = echo(1);
         x.send(0, 0, 5);

@@ -29,6 +29,7 @@ public final class ConditionTest {
         Check.finish();
     }
 
+    /** "false, and nothing changes, if op is not 0..13". */
     private static void whichTermsAreTaken() {
         EventDesk x = new EventDesk();
         int[] wrong = {-1, 14, 15, 100, L, H};
@@ -42,6 +43,7 @@ public final class ConditionTest {
         }
     }
 
+    /** "or there are 12". */
     private static void atMostTwelveTerms() {
         EventDesk x = new EventDesk();
         Check.terms(x, 0, 1);
@@ -71,6 +73,7 @@ public final class ConditionTest {
         Check.due("drop after it", x.drop(), want ? 1 : terms);
     }
 
+    /** "if it takes off more than there is somewhere, or does not leave just one value". */
     private static void whichProgramsAreConditions() {
         isCondition(false);
         for (int op = 1; op <= 4; op++) {
@@ -97,6 +100,7 @@ public final class ConditionTest {
         isCondition(false, 12, 0, 1, 5);
     }
 
+    /** "the last of a list of at most 3", "or there are 3". */
     private static void atMostThreeConditions() {
         EventDesk x = new EventDesk();
         Check.typesAre(x, 0, 1, 2);
@@ -113,6 +117,7 @@ public final class ConditionTest {
         Check.sends(x, "three and one", new int[][] {{0, 0, 0}, {1, 0, 0}, {2, 0, 0}, {3, 0, 0}}, 0, 0, 1, 1);
     }
 
+    /** "false, and nothing changes": the program can be gone on with. */
     private static void refusedConditionChangesNothing() {
         EventDesk x = new EventDesk();
         Check.terms(x, 3, 0, 2);
@@ -123,6 +128,7 @@ public final class ConditionTest {
         Check.sends(x, "type 2", new int[][] {{0, 0, 0}, {1, 0, 0}, {2, 0, 0}, {3, 0, 0}}, 0, 0, 1, 0);
     }
 
+    /** "Empties the program and the list; answers how many terms and conditions there were". */
     private static void dropCountsTermsAndConditions() {
         EventDesk x = new EventDesk();
         Check.condition(x, 1, 2, 5);
@@ -137,6 +143,7 @@ public final class ConditionTest {
         Check.due("the list went to the window", x.drop(), 0);
     }
 
+    /** "with the conditions of the list, which is empty then": the program at work stays. */
     private static void programAndListAreApart() {
         EventDesk x = new EventDesk();
         Check.always(x);
@@ -169,6 +176,7 @@ public final class ConditionTest {
         meets(false, a, b, longer);
     }
 
+    /** "0 -- the term's value   1 -- the event's a   2 -- its b   3 -- its type   4 -- its time". */
     private static void termsOfTheEvent() {
         leaves(-5, 0, 0, 0, -5);
         leaves(L, 0, 0, 0, L);
@@ -181,6 +189,7 @@ public final class ConditionTest {
         leaves(9, 7, 8, 4);
     }
 
+    /** "x y -- ..": which of the two is x, "all wrapping", and "0 if y is 0". */
     private static void termsOfTwo() {
         leaves(7, 3, 4, 1, 2, 5);
         leaves(L, H, 1, 1, 2, 5);
@@ -218,6 +227,7 @@ public final class ConditionTest {
         leaves(-8, L, 10, 1, 2, 13);
     }
 
+    /** "12 x -- 1 if x is 0, else 0". */
     private static void termNot() {
         leaves(1, 0, 0, 1, 12);
         leaves(0, 1, 0, 1, 12);
@@ -226,6 +236,7 @@ public final class ConditionTest {
         leaves(4, 4, 0, 1, 2, 12, 7);
     }
 
+    /** "if the one value that is left is not 0". */
     private static void anyValueButZeroMeets() {
         meets(false, 0, 0, 1);
         meets(true, 1, 0, 1);
@@ -234,6 +245,7 @@ public final class ConditionTest {
         meets(true, L, 0, 1);
     }
 
+    /** "carried out in order on a stack": the deepest that twelve terms can make. */
     private static void deepestStack() {
         // 1 - (2 - (3 - (4 - a))) and b - (2 - (3 - (4 - a))).
         leaves(8, 10, 0, 0, 1, 0, 2, 0, 3, 0, 4, 1, 6, 6, 6, 6);

@@ -39,6 +39,7 @@ public final class GivingTest {
         Check.due("window", x.window(slot, 1, 1, 1, false), true);
     }
 
+    /** "false .. if there is none in the slot, rate is not 1..8, or route not 0..4 (4: none)". */
     private static void whatGivingTakes() {
         EventDesk x = echo(3);
         for (int slot = -1; slot <= 6; slot++) {
@@ -60,6 +61,7 @@ public final class GivingTest {
         Check.due("least H", x.giving(3, H, 1, 4), true);
     }
 
+    /** "false, and nothing changes": none of the three. */
     private static void refusedGivingChangesNothing() {
         EventDesk x = echo(0);
         Check.due("giving", x.giving(0, 10, 2, 3), true);
@@ -72,6 +74,7 @@ public final class GivingTest {
         Check.due("happened", x.state(0), 4);
     }
 
+    /** "An output COUNTS if it is greater than the question's LEAST". */
     private static void outputsGreaterThanLeastCount() {
         EventDesk x = echo(0);
         x.giving(0, 5, 1, 4);
@@ -89,6 +92,7 @@ public final class GivingTest {
         Check.outputs(x, 0, "a new question's least", new int[][] {{0, 0, 0, L}, {0, 0, 0, L + 1}}, NONE, L + 1);
     }
 
+    /** "each R-th one (the R-th, 2 R-th ..) is GIVEN", R from 1 to 8. */
     private static void eachRthIsGiven() {
         for (int rate = 1; rate <= 8; rate++) {
             EventDesk x = echo(0);
@@ -103,6 +107,7 @@ public final class GivingTest {
         }
     }
 
+    /** "The outputs that counted stay counted", when RATE changes. */
     private static void rateChangesBetween() {
         EventDesk x = echo(0);
         x.giving(0, 0, 3, 4);
@@ -121,6 +126,7 @@ public final class GivingTest {
         Check.due("given", x.given(0, 0), 5);
     }
 
+    /** "The outputs that counted stay counted", when LEAST changes. */
     private static void leastChangesBetween() {
         EventDesk x = echo(0);
         x.giving(0, 5, 1, 4);
@@ -133,6 +139,7 @@ public final class GivingTest {
         Check.due("now it counts", x.send(0, 0, 3), 1);
     }
 
+    /** "that type, a the slot, b the output, at the same time". */
     private static void routeOfEachType() {
         for (int type = 0; type <= 3; type++) {
             EventDesk x = new EventDesk();
@@ -165,6 +172,7 @@ public final class GivingTest {
         Check.due("happened", x.state(0), 4);
     }
 
+    /** "(4: none)". */
     private static void routeEnds() {
         EventDesk x = new EventDesk();
         Check.typeIs(x, 0);
@@ -178,6 +186,7 @@ public final class GivingTest {
         Check.due("given", x.given(0, 0), 2);
     }
 
+    /** "Takes a question away: true". */
     private static void removeTakesAway() {
         EventDesk x = echo(0);
         addEcho(x, 5);
@@ -201,6 +210,7 @@ public final class GivingTest {
         Check.due("in all", x.state(3), 4);
     }
 
+    /** "false if there is none". */
     private static void removeOfNothing() {
         EventDesk x = echo(2);
         for (int slot : new int[] {-1, 0, 1, 3, 4, 5, 6, 7, L, H}) {

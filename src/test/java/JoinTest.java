@@ -40,6 +40,7 @@ public final class JoinTest {
         Check.due(what + ": given", x.given(slot, 0), want ? 0 : -1);
     }
 
+    /** "false if slot is not 0..5, there are not just 2 conditions, or n or m is not 1..16". */
     private static void whichJoinsAreSet() {
         for (int slot = 0; slot <= 5; slot++) {
             isSet(true, slot, 1, 1, 2);
@@ -59,6 +60,7 @@ public final class JoinTest {
         isSet(false, 0, 1, 1, 3);
     }
 
+    /** "Likewise": whatever was there, nothing seen. */
     private static void setJoinStartsAnew() {
         EventDesk x = join(2, 2, 0, 1);
         x.giving(3, 5, 2, 2);
@@ -74,6 +76,7 @@ public final class JoinTest {
         Check.due("no route", x.state(0), 5);
     }
 
+    /** "of all in the right with the same a; for each that meets only the second, of those in the left". */
     private static void bothSides() {
         EventDesk x = join(5, 5, 0, 1);
         Check.outputs(x, 3, "left and right",
@@ -82,6 +85,7 @@ public final class JoinTest {
                 NONE, NONE, NONE, 1, 8, 17, NONE, 40, 4);
     }
 
+    /** "the LEFT are the latest n events that met the first, the RIGHT the latest m that met the second". */
     private static void latestOfEachSide() {
         // The sides hold events of any a, so one with another a takes a place too.
         EventDesk x = join(2, 1, 0, 1);
@@ -96,6 +100,7 @@ public final class JoinTest {
                 NONE, NONE, NONE, NONE, 14, 14, 32, 76);
     }
 
+    /** The greatest n and m. */
     private static void sidesOfSixteen() {
         EventDesk x = join(16, 16, 0, 1);
         for (int i = 0; i < 20; i++) {
@@ -110,6 +115,7 @@ public final class JoinTest {
         Check.due("sixteen on the right", x.output(3, 0), 48);
     }
 
+    /** "An event that meets both is put into both before; with itself it makes no pair". */
     private static void eventOfBothSides() {
         EventDesk x = join(3, 3, 4, 4);
         Check.outputs(x, 3, "both sides",
@@ -127,6 +133,7 @@ public final class JoinTest {
                 NONE, NONE, 2, 4, 8);
     }
 
+    /** "for each that meets only the second". */
     private static void firstBeforeSecond() {
         // One that meets both has its output of the right alone, even if there is none.
         EventDesk x = join(5, 5, 4, 1);
@@ -135,6 +142,7 @@ public final class JoinTest {
                 NONE, NONE, NONE, 4, 4);
     }
 
+    /** "the sum (wrapping)"; a sum of 0 is an output. */
     private static void sums() {
         EventDesk x = join(5, 5, 0, 1);
         Check.outputs(x, 3, "sums",
@@ -144,6 +152,7 @@ public final class JoinTest {
         Check.due("a sum of 0 counts", x.given(3, 1), 3);
     }
 
+    /** "A question sees the events that happen from when it is set on". */
     private static void seesFromWhenItIsSet() {
         EventDesk x = join(5, 5, 0, 1);
         x.send(0, 1, 1);

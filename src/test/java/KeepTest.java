@@ -38,6 +38,7 @@ public final class KeepTest {
         return x;
     }
 
+    /** "false if none was". */
     private static void nothingKept() {
         EventDesk x = sum();
         x.send(0, 0, 5);
@@ -47,6 +48,7 @@ public final class KeepTest {
         Check.due("output", x.output(0, 0), 5);
     }
 
+    /** "Takes the state back that was kept last". */
     private static void keptStateComesBack() {
         EventDesk x = sum();
         x.send(0, 0, 5);
@@ -67,6 +69,7 @@ public final class KeepTest {
         Check.due("the sum goes on from there", x.output(0, 0), 6);
     }
 
+    /** "(it stays kept)". */
     private static void keptStateStaysKept() {
         EventDesk x = sum();
         x.send(0, 0, 5);
@@ -80,6 +83,7 @@ public final class KeepTest {
         }
     }
 
+    /** "that was kept last". */
     private static void laterKeepReplaces() {
         EventDesk x = sum();
         x.keep();
@@ -92,6 +96,7 @@ public final class KeepTest {
         Check.state(x, "still the later one", 1, 0, 0, 1);
     }
 
+    /** "The program and the list are no part of it". */
     private static void programAndListAreNoPart() {
         EventDesk x = new EventDesk();
         Check.typeIs(x, 1);
@@ -116,6 +121,7 @@ public final class KeepTest {
         Check.due("slot 1", x.given(1, 0), 1);
     }
 
+    /** "Keeps the state: questions". */
     private static void questionsComeBack() {
         EventDesk x = sum();
         x.giving(0, 10, 2, 3);
@@ -147,6 +153,7 @@ public final class KeepTest {
         Check.due("join", x.given(2, 0), 2);
     }
 
+    /** "Keeps the state: .. events". */
     private static void whatQuestionsSawComesBack() {
         EventDesk x = sum();
         x.send(0, 0, 1);
@@ -190,6 +197,7 @@ public final class KeepTest {
         Check.due("another a", x.send(0, 2, 0), 0);
     }
 
+    /** Which first events have ended a match is part of the state. */
     private static void onceComesBack() {
         EventDesk x = new EventDesk();
         Check.typesAre(x, 0, 1);
@@ -210,6 +218,7 @@ public final class KeepTest {
         Check.due("of one", x.output(0, 0), 1);
     }
 
+    /** Events of the break type are part of the state. */
     private static void breaksComeBack() {
         EventDesk x = new EventDesk();
         Check.typesAre(x, 0, 1);
@@ -233,6 +242,7 @@ public final class KeepTest {
         Check.due("there was no break", x.send(1, 0, 0), 1);
     }
 
+    /** How many were lost is part of the state. */
     private static void lostComesBack() {
         EventDesk x = sum();
         x.giving(0, L, 1, 0);
@@ -250,6 +260,7 @@ public final class KeepTest {
         Check.due("clear", x.clear(), 64);
     }
 
+    /** "false if none was": an empty state was one. */
     private static void emptyStateCanBeKept() {
         EventDesk x = new EventDesk();
         x.keep();
@@ -263,6 +274,7 @@ public final class KeepTest {
         Check.due("no question, no output", x.output(0, 0), 0);
     }
 
+    /** "All events and outputs are forgotten, the time is 0". */
     private static void clearForgets() {
         EventDesk x = new EventDesk();
         Check.always(x);
@@ -282,6 +294,7 @@ public final class KeepTest {
         Check.due("the time is 0 again", x.state(2), 0);
     }
 
+    /** "the questions stay, having seen nothing". */
     private static void clearKeepsQuestions() {
         EventDesk x = sum();
         x.giving(0, 10, 2, 3);
@@ -305,6 +318,7 @@ public final class KeepTest {
         Check.outputs(x, 0, "from the beginning", new int[][] {{0, 0, 0, 1}, {0, 0, 0, 2}, {0, 0, 0, 4}}, 1, 3, 7);
     }
 
+    /** "the questions stay, having seen nothing": patterns and joins. */
     private static void clearedPatternsAndJoins() {
         EventDesk x = new EventDesk();
         Check.typesAre(x, 0, 1);
@@ -324,6 +338,7 @@ public final class KeepTest {
         Check.outputs(x, 0, "not ended before", new int[][] {{0, 1, 0, 0}, {0, 1, 0, 0}}, 1, NONE);
     }
 
+    /** "What is kept stays". */
     private static void clearKeepsProgramAndKept() {
         EventDesk x = sum();
         x.send(0, 0, 5);

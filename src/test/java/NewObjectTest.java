@@ -6,7 +6,9 @@ public final class NewObjectTest {
         for (int slot = 0; slot < 6; slot++) {
             Check.due("new: given", x.given(slot, 0), -1);
             Check.due("new: counted", x.given(slot, 1), -1);
-            Check.due("new: output", x.output(slot, 0), 0);
+            for (int k = 0; k <= 7; k++) {
+                Check.due("new: output", x.output(slot, k), 0);
+            }
             Check.due("new: remove", x.remove(slot), false);
             Check.due("new: giving", x.giving(slot, 0, 1, 4), false);
         }
@@ -17,10 +19,12 @@ public final class NewObjectTest {
         Check.due("new: restore after clear", x.restore(), false);
         Check.due("new: advance(0)", x.advance(0), 0);
         Check.due("new: send", x.send(0, 0, 0), 0);
+        Check.state(x, "new, one event", 1, 0, 0, 0);
         objectsAreApart();
         Check.finish();
     }
 
+    /** What one object does is nothing to another. */
     private static void objectsAreApart() {
         EventDesk x = new EventDesk();
         EventDesk y = new EventDesk();

@@ -52,6 +52,7 @@ public final class PatternTest {
         Check.due(what + ": given", x.given(slot, 0), want ? 0 : -1);
     }
 
+    /** "false if slot is not 0..5, there are not 2 or 3 conditions, n is not 1..1000, or stop is not 0..4". */
     private static void whichPatternsAreSet() {
         for (int i = 0; i <= 5; i++) {
             isSet(true, i, 1, 0, 2);
@@ -72,6 +73,7 @@ public final class PatternTest {
         isSet(true, 0, 1, 4, 3);
     }
 
+    /** "Likewise": whatever was there, nothing seen. */
     private static void setPatternStartsAnew() {
         EventDesk x = pattern(10, 4, false, false, 4, 4);
         x.giving(4, 1, 3, 2);
@@ -88,6 +90,7 @@ public final class PatternTest {
         Check.due("no route", x.state(0), 5);
     }
 
+    /** "a row of events .. that meet the conditions in this order". */
     private static void twoConditions() {
         EventDesk x = pattern(10, 4, false, false, 0, 1);
         Check.outputs(x, 4, "0 then 1",
@@ -96,6 +99,7 @@ public final class PatternTest {
                 NONE, NONE, NONE, 1, NONE, 2, NONE, 2);
     }
 
+    /** "a row of events .. that meet the conditions in this order": three of them. */
     private static void threeConditions() {
         EventDesk x = pattern(100, 4, false, false, 0, 1, 2);
         Check.outputs(x, 4, "0, 1, 2",
@@ -108,6 +112,7 @@ public final class PatternTest {
                 NONE, NONE, NONE, NONE, 4);
     }
 
+    /** "each later than the one before". */
     private static void oneEventIsNoRow() {
         EventDesk x = pattern(10, 4, false, false, 4, 4);
         Check.outputs(x, 4, "any two",
@@ -118,12 +123,14 @@ public final class PatternTest {
                 NONE, NONE, 1, 3, 6);
     }
 
+    /** "less than n after the first" with n 1: later is what happens later, at the same time too. */
     private static void sameTimeIsLaterToo() {
         EventDesk x = pattern(1, 4, false, false, 0, 1);
         Check.outputs(x, 4, "at the same time",
                 new int[][] {{5, 0, 0, 0}, {0, 1, 0, 0}, {1, 1, 0, 0}}, NONE, 1, NONE);
     }
 
+    /** "the last one less than n after the first". */
     private static void lessThanNAfterTheFirst() {
         EventDesk x = pattern(3, 4, false, false, 0, 1);
         Check.outputs(x, 4, "less than 3 after",
@@ -141,6 +148,7 @@ public final class PatternTest {
         Check.outputs(x, 4, "less than 1000 after", new int[][] {{99, 1, 0, 0}, {1, 1, 0, 0}}, 1, NONE);
     }
 
+    /** "no event of the break type happened between two neighbouring ones (after the one and before the other)". */
     private static void breaksOfTwo() {
         EventDesk x = pattern(100, 2, false, false, 0, 1);
         Check.outputs(x, 4, "break 2",
@@ -160,6 +168,7 @@ public final class PatternTest {
                 new int[][] {{0, 0, 1, 0}, {0, 2, 7, 0}, {0, 1, 1, 0}}, NONE, NONE, NONE);
     }
 
+    /** "between two neighbouring ones": between the first two and between the last two. */
     private static void breaksOfThree() {
         int[][] between = {{0, 0, 0, 0}, {0, 3, 0, 0}, {0, 1, 0, 0}, {0, 2, 0, 0}};
         Check.outputs(pattern(100, 3, false, false, 0, 1, 2), 4, "break after the first", between,
@@ -180,6 +189,7 @@ public final class PatternTest {
                 NONE, NONE, NONE, NONE, 1);
     }
 
+    /** "all have the same a if EQUAL". */
     private static void equalA() {
         EventDesk x = pattern(100, 4, true, false, 0, 1);
         Check.outputs(x, 4, "equal",
@@ -191,6 +201,7 @@ public final class PatternTest {
                 NONE, NONE, NONE, NONE, NONE, 1);
     }
 
+    /** "if ONCE, no match with the same first event ended with an event before". */
     private static void once() {
         EventDesk x = pattern(100, 4, false, true, 0, 1);
         Check.outputs(x, 4, "once",
@@ -212,6 +223,7 @@ public final class PatternTest {
         Check.sends(x, "two patterns", new int[][] {{0, 0, 0}, {1, 0, 0}, {2, 0, 0}, {1, 0, 0}, {2, 0, 0}}, 0, 1, 1, 0, 0);
     }
 
+    /** "with the same first event", whichever the second is. */
     private static void onceOfThree() {
         EventDesk x = pattern(100, 4, false, true, 0, 1, 2);
         Check.outputs(x, 4, "once, three",
@@ -220,6 +232,7 @@ public final class PatternTest {
                 NONE, NONE, NONE, 2, NONE, NONE, NONE, 1);
     }
 
+    /** "no match .. ended": also one whose output did not count. */
     private static void onceThoughNotCounted() {
         EventDesk x = pattern(100, 4, false, true, 0, 1);
         x.giving(4, 1, 1, 4);
@@ -227,6 +240,7 @@ public final class PatternTest {
                 new int[][] {{0, 0, 0, 0}, {0, 1, 0, 0}, {0, 0, 0, 0}, {0, 1, 0, 0}}, NONE, NONE, NONE, NONE);
     }
 
+    /** "A question sees the events that happen from when it is set on". */
     private static void seesFromWhenItIsSet() {
         EventDesk x = pattern(100, 4, false, true, 0, 1);
         x.send(0, 0, 0);
@@ -242,6 +256,7 @@ public final class PatternTest {
                 NONE, NONE, NONE, NONE, NONE, 1);
     }
 
+    /** Routed events are events. */
     private static void routedEventsMatch() {
         EventDesk x = new EventDesk();
         Check.typeIs(x, 0);
@@ -255,6 +270,7 @@ public final class PatternTest {
         Check.due("output", x.output(2, 0), 1);
     }
 
+    /** "the output is their number": the greatest that there can be. */
     private static void manyMatches() {
         EventDesk x = pattern(1000, 4, true, false, 4, 4, 4);
         for (int i = 0; i < 64; i++) {
@@ -421,17 +437,20 @@ public final class PatternTest {
             x.window(slot, 1, 1, 1, false);
             x.giving(slot, 0, 1, 1);
         }
-        Check.typesAre(x, 1, 2);
+        Check.condition(x, 3, 0, 2, 8);
+        Check.typeIs(x, 2);
         x.pattern(4, 100, 4, true, true);
-        // A 0, two routed 1s (a is 0 and 1), and a 1 with an a of 9.
+        // A 0 with an a of 5, two routed 1s (their a is 0 and 1), and a 1 with an a of 9: each begins a row.
         Check.due("two are routed", x.send(0, 5, 7), 2);
         x.send(1, 9, 7);
         Check.outputs(x, 4, "each on its own",
-                new int[][] {{0, 2, 1, 0}, {0, 2, 9, 0}, {0, 2, 0, 0}, {0, 2, 1, 0}, {0, 2, 9, 0}, {0, 2, 0, 0}},
-                1, 1, 1, NONE, NONE, NONE);
+                new int[][] {{0, 2, 5, 0}, {0, 2, 1, 0}, {0, 2, 9, 0}, {0, 2, 0, 0}}, 1, 1, 1, 1);
+        Check.outputs(x, 4, "each once",
+                new int[][] {{0, 2, 5, 0}, {0, 2, 1, 0}, {0, 2, 9, 0}, {0, 2, 0, 0}}, NONE, NONE, NONE, NONE);
         x.send(0, 5, 7);
         x.send(0, 5, 7);
-        Check.outputs(x, 4, "two of each", new int[][] {{0, 2, 0, 0}, {0, 2, 1, 0}, {0, 2, 0, 0}}, 2, 2, NONE);
+        Check.outputs(x, 4, "two of each",
+                new int[][] {{0, 2, 0, 0}, {0, 2, 1, 0}, {0, 2, 0, 0}, {0, 2, 5, 0}}, 2, 2, NONE, 2);
         // Firsts that are alike in all, one after the other.
         x = pattern(100, 4, true, true, 0, 1);
         int[][] pair = {{0, 0, 3, 3}, {0, 1, 3, 3}};

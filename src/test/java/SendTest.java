@@ -24,6 +24,7 @@ public final class SendTest {
         Check.finish();
     }
 
+    /** "-1, and nothing changes, if type is not 0..3". */
     private static void whichEventsAreSent() {
         EventDesk x = new EventDesk();
         Check.always(x);
@@ -42,6 +43,7 @@ public final class SendTest {
         Check.due("it happened all the same", y.state(0), 1);
     }
 
+    /** "or 64 events have happened". */
     private static void sixtyFourEvents() {
         EventDesk x = new EventDesk();
         Check.always(x);
@@ -73,6 +75,7 @@ public final class SendTest {
         Check.due("the earlier one is of slot 1", x.output(5, 1), 1);
     }
 
+    /** "after all events that wait so already; it happens when the event before it has gone to all questions". */
     private static void routedEventsWaitInLine() {
         EventDesk x = new EventDesk();
         // Slot 0: type 0 makes a type 1. Slot 1: type 1 makes a type 2. Slot 2: type 0 makes a type 3.
@@ -96,6 +99,7 @@ public final class SendTest {
         Check.due("happened", x.state(0), 4);
     }
 
+    /** "at the same time". */
     private static void routedEventsHappenAtTheSameTime() {
         EventDesk x = new EventDesk();
         Check.typeIs(x, 0);
@@ -112,6 +116,7 @@ public final class SendTest {
         Check.due("the clock stands", x.state(2), 13);
     }
 
+    /** "An event happens, and all that it makes": until there are 64. */
     private static void routesFeedThemselves() {
         EventDesk x = new EventDesk();
         Check.always(x);
@@ -124,6 +129,7 @@ public final class SendTest {
         Check.state(x, "no more", 64, 1, 0, 64);
     }
 
+    /** "If 64 events have happened or wait, it is LOST instead". */
     private static void waitingEventsTakePlaces() {
         EventDesk x = new EventDesk();
         for (int slot = 0; slot < 4; slot++) {
@@ -153,6 +159,7 @@ public final class SendTest {
         Check.due("slot 0's was the one", x.given(4, 0), 46);
     }
 
+    /** The event is lost; the output was given. */
     private static void lostOutputsAreGiven() {
         EventDesk x = new EventDesk();
         Check.typeIs(x, 1);
@@ -167,6 +174,7 @@ public final class SendTest {
         Check.state(x, "lost", 64, 1, 0, 1);
     }
 
+    /** "The clock goes on by d (0..100; else -1 is answered, and nothing changes). Answers the time". */
     private static void howTheClockGoesOn() {
         EventDesk x = new EventDesk();
         Check.due("advance(0)", x.advance(0), 0);

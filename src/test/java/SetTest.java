@@ -82,6 +82,7 @@ public final class SetTest {
         Check.due(what + ": no route", x.state(0), happened + 3);
     }
 
+    /** "LEAST -2147483648": the one output that does not count. */
     private static void leastIsTheLowestInt() {
         for (int before = WINDOW; before <= REMOVED; before++) {
             EventDesk x = new EventDesk();
@@ -101,6 +102,7 @@ public final class SetTest {
         }
     }
 
+    /** A question is set in its own slot alone. */
     private static void otherSlotsStay() {
         for (int slot = 0; slot <= 5; slot++) {
             EventDesk x = new EventDesk();

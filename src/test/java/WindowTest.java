@@ -50,6 +50,7 @@ public final class WindowTest {
         Check.due(what + ": given", x.given(slot, 0), want ? 0 : -1);
     }
 
+    /** "False .. if slot is not 0..5, there isn't just one condition, view is not 0..5, n not .., or total is not 0..5". */
     private static void whichWindowsAreSet() {
         for (int slot = 0; slot <= 5; slot++) {
             isSet(true, slot, 0, 1, 0);
@@ -85,6 +86,7 @@ public final class WindowTest {
         }
     }
 
+    /** "False, and nothing changes": the question that stands there goes on. */
     private static void refusedWindowChangesNothing() {
         EventDesk x = window(0, 0, 1, false, 0, 1);
         x.giving(2, 3, 2, 4);
@@ -101,6 +103,7 @@ public final class WindowTest {
         Check.due("sum goes on", x.output(2, 0), 13);
     }
 
+    /** "whatever was there (LEAST -2147483648, RATE 1, no route, nothing seen)". */
     private static void setWindowStartsAnew() {
         EventDesk x = window(0, 0, 1, false, 0, 1);
         x.giving(2, 3, 2, 3);
@@ -128,6 +131,7 @@ public final class WindowTest {
         Check.due("the first member", x.output(2, 0), 1);
     }
 
+    /** "the events that met it are its members"; "For each member that happens". */
     private static void onlyMembersHaveOutputs() {
         EventDesk x = window(0, 0, 1, false, 3, 0, 1, 9);
         Check.outputs(x, 2, "members of type 1",
@@ -135,6 +139,7 @@ public final class WindowTest {
                 NONE, 6, NONE, 14, NONE);
     }
 
+    /** "VIEW 0: all members". */
     private static void viewAll() {
         EventDesk x = window(0, -3, 0, false, 0, 1);
         for (int i = 1; i <= 64; i++) {
@@ -144,6 +149,7 @@ public final class WindowTest {
         }
     }
 
+    /** "1: the latest n". */
     private static void viewLatest() {
         EventDesk x = window(1, 3, 1, false, 3, 0, 2, 8);
         Check.outputs(x, 2, "latest 3",
@@ -158,6 +164,7 @@ public final class WindowTest {
         }
     }
 
+    /** "2: those that are less than n old". */
     private static void viewYoung() {
         EventDesk x = window(2, 3, 1, false, 3, 0, 2, 8);
         Check.outputs(x, 2, "less than 3 old",
@@ -173,6 +180,7 @@ public final class WindowTest {
                 1, 3, 6, 14, 28);
     }
 
+    /** "3: those since the last full batch of n (an output only for the n-th one, of these n; they are gone then)". */
     private static void viewBatch() {
         EventDesk x = window(3, 3, 1, false, 3, 0, 2, 8);
         Check.outputs(x, 2, "batches of 3",
@@ -192,6 +200,7 @@ public final class WindowTest {
                 NONE, NONE, 5, NONE, NONE, 32);
     }
 
+    /** "4: of each value of a the latest member". */
     private static void viewLatestOfEach() {
         EventDesk x = window(4, 0, 1, false, 3, 0, 2, 8);
         Check.outputs(x, 2, "latest of each a",
@@ -203,6 +212,7 @@ public final class WindowTest {
                 new int[][] {{0, 0, 1, 1}, {0, 0, 2, 2}, {0, 0, 1, 4}, {0, 0, 1, 4}}, 1, 1, 1, 1);
     }
 
+    /** "5: .. (a member that comes n or more after the one before it begins anew)". */
     private static void viewSincePause() {
         EventDesk x = window(5, 3, 1, false, 3, 0, 2, 8);
         Check.outputs(x, 2, "since a pause of 3",
@@ -222,6 +232,7 @@ public final class WindowTest {
                 new int[][] {{0, 0, 1, 1}, {2, 0, 2, 2}, {2, 0, 1, 4}, {3, 0, 1, 8}}, 1, 2, 5, 8);
     }
 
+    /** "0 their number; of their b: 1 the sum, 2 the least, 3 the greatest, 4 how many different ones, 5 the middle one". */
     private static void totals() {
         int[] b = {5, 3, 5, 9, 3, 1, 9};
         long[][] want = {
@@ -240,6 +251,7 @@ public final class WindowTest {
         }
     }
 
+    /** Each total where b is at the ends of the ints; a sum that is the lowest int does not count. */
     private static void totalsOfWideValues() {
         int[][] events = {{0, 0, 0, H}, {0, 0, 0, 1}, {0, 0, 0, L + 1}, {0, 0, 0, -1}};
         long[][] want = {
@@ -255,6 +267,7 @@ public final class WindowTest {
         }
     }
 
+    /** "with the same a as this one if the question is GROUPED". */
     private static void grouped() {
         int[][] events = {{0, 0, 1, 5}, {0, 0, 2, 3}, {0, 0, 1, 1}, {0, 0, 1, 5}, {0, 0, 2, 4}, {0, 0, -1, 0}};
         long[][] want = {
@@ -277,6 +290,7 @@ public final class WindowTest {
                 new int[][] {{0, 0, 1, 1}, {1, 0, 2, 2}, {1, 0, 1, 4}, {1, 0, 1, 8}}, 1, 2, 5, 12);
     }
 
+    /** "A question sees the events that happen from when it is set on". */
     private static void seesFromWhenItIsSet() {
         for (int view = 0; view <= 5; view++) {
             EventDesk x = new EventDesk();
